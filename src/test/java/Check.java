@@ -1,0 +1,99 @@
+/** What the tests share: a count of wrong answers, and the exceptions that calls throw. */
+final class Check {
+    interface Call {
+        long answer();
+    }
+
+    private static int looked = 0;
+    private static int wrong = 0;
+
+    private Check() {
+    }
+
+    static void same(String what, long got, long due) {
+        looked++;
+        if (got != due) {
+            wrong++;
+            System.out.println(what + " answered " + got + ", due is " + due);
+        }
+    }
+
+    static void sameText(String what, String got, String due) {
+        looked++;
+        if (!got.equals(due)) {
+            wrong++;
+            System.out.println(what + " answered " + got + ", due is " + due);
+        }
+    }
+
+    /** The answer of a call as a text: a number, or the name of what it throws. */
+    static String told(Call call) {
+        try {
+            return Long.toString(call.answer());
+        } catch (RuntimeException e) {
+            return e.getClass().getSimpleName();
+        }
+    }
+
+    static void noPlace(String what, Call call) {
+        sameText(what, told(call), "IndexOutOfBoundsException");
+    }
+
+    static void noArgument(String what, Call call) {
+        sameText(what, told(call), "IllegalArgumentException");
+    }
+
+    static void noState(String what, Call call) {
+        sameText(what, told(call), "IllegalStateException");
+    }
+
+    /** Puts a text into the buffer of an object, in place of what is there. */
+    static void type(RangeGraves x, String text) {
+        x.clearText();
+        for (int i = 0; i < text.length(); i++) {
+            x.append(text.charAt(i));
+        }
+    }
+
+    /** An object that did the commands of a history. */
+    static RangeGraves loaded(String text) {
+        RangeGraves x = new RangeGraves();
+        type(x, text);
+        x.load();
+        return x;
+    }
+
+    /** Writes of a run, or of memory, as a text: number:key=value or number:first-last each. */
+    static String writes(RangeGraves x, int place) {
+        StringBuilder all = new StringBuilder();
+        for (int j = 0; x.write(place, j, 0) != RangeGraves.NONE; j++) {
+            all.append(j == 0 ? "" : " ").append(x.write(place, j, 0)).append(':');
+            all.append(x.write(place, j, 1));
+            if (x.write(place, j, 3) > 0) {
+                all.append('=').append(x.write(place, j, 3));
+            } else {
+                all.append('-').append(x.write(place, j, 2));
+            }
+        }
+        return all.toString();
+    }
+
+    /** Memory, all runs and all eyes, as a text. */
+    static String everything(RangeGraves x) {
+        StringBuilder all = new StringBuilder(writes(x, RangeGraves.NONE));
+        for (int i = 0; i < x.about(2); i++) {
+            all.append(" | ").append(writes(x, i));
+        }
+        for (int e = 0; e < x.about(3); e++) {
+            all.append(e == 0 ? " eyes " : ",").append(x.eye(e));
+        }
+        return all.append(" latest ").append(x.about(0)).append(" fewer ").append(x.about(8)).toString();
+    }
+
+    static void end(String name) {
+        System.out.println(name + ": " + looked + " looked at, " + wrong + " wrong");
+        if (wrong != 0 || looked == 0) {
+            System.exit(1);
+        }
+    }
+}
