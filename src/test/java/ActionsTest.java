@@ -13,6 +13,7 @@ public final class ActionsTest {
         promise15FlushOfTooMuch();
         promise16Merge();
         promise16MergeOfTooMuch();
+        promise16MergeUpToTheLimit();
         promise17Undo();
         promise17UndoTakesAllBack();
         promise17FourteenStates();
@@ -209,6 +210,21 @@ public final class ActionsTest {
         Check.noState("merge of the last run", () -> y.merge(2));
         Check.same("the other merge", y.merge(1), 1);
         Check.same("and then all", y.merge(0), 1);
+    }
+
+    /** The older one of the two runs has more writes than the run behind both. */
+    private static void promise16MergeUpToTheLimit() {
+        RangeGraves x = Check.loaded("Gp00001fx0199p98001p99001f");
+        for (int i = 0; i < 22; i++) {
+            x.bury(3 + 2 * i, 3 + 2 * i);
+        }
+        x.flush();
+        Check.same("merge to 48 writes", x.merge(0), 47);
+        x.undo();
+        x.undo();
+        x.bury(60, 60);
+        x.flush();
+        Check.noState("merge to 50 writes", () -> x.merge(0));
     }
 
     private static void promise17Undo() {

@@ -9,6 +9,7 @@ public final class CleaningTest {
         gravesStayOverOlderEntries();
         piecesAreCutAgain();
         keysBeyondAWord();
+        cleaningStartsAnew();
         Check.end("CleaningTest");
     }
 
@@ -107,5 +108,18 @@ public final class CleaningTest {
         makes("Gp01001fx5080x6464f", " | 2:50-63 2:65-80 3:64-64 | 1:1=1 latest 3 fewer -1");
         makes("Gp01001fx0099x9999x0000f", " | 2:1-98 3:99-99 4:0-0 | 1:1=1 latest 4 fewer 0");
         makes("Gp63001p64002p99003p00004x6364f", " | 3:99=3 4:0=4 latest 5 fewer 3");
+    }
+
+    /** What an earlier cleaning left is of no account in a later one. */
+    private static void cleaningStartsAnew() {
+        RangeGraves x = new RangeGraves();
+        x.put(20, 1);
+        x.flush();
+        x.undo();
+        x.undo();
+        x.put(10, 1);
+        x.bury(20, 20);
+        Check.same("flush", x.flush(), 1);
+        Check.sameText("the grave goes", Check.everything(x), " | 1:10=1 latest 2 fewer 1");
     }
 }

@@ -33,6 +33,7 @@ public final class WhatThereIsTest {
         abouts("Gp00001p99999oo", 2, 2, 0, 2, 2, 2, 2, 1000, 0);
         abouts("Gp50001fx0030x1015f", 3, 0, 2, 0, 4, 1, 1, 1, -1);
         abouts("Gp50001fx0030x1015fx0099fm0m0", 4, 0, 0, 0, 0, 0, 0, 0, 4);
+        Check.same("about 7 alone", Check.loaded("Gp10005p11006").about(7), 11);
         RangeGraves x = new RangeGraves();
         for (int what : new int[] {-1, 9, FAR[0], FAR[1]}) {
             Check.noArgument("about " + what, () -> x.about(what));
