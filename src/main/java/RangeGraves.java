@@ -25,6 +25,7 @@ public final class RangeGraves {
     // Two eyes part the writes into three groups, and in a group each key has one grave at most.
     private static final int MOST_CLEANED = MOST_WRITES + (MOST_EYES + 1) * KEYS;
 
+    // A group of a script has five digits.
     private static final int GROUP = 100000;
 
     private final Text text;
@@ -364,12 +365,12 @@ public final class RangeGraves {
         if (n < 1 || n > MOST_COMMANDS) {
             throw new IllegalArgumentException("a script has 1 to 3 commands");
         }
-        if (script < 0 || script >= groupsPower(n)) {
+        if (script < 0 || withoutLast(n, script) > 0) {
             throw new IllegalArgumentException("a script is a number of at most 5 * n digits");
         }
         trial.become(store);
         for (int at = 0; at < n; at++) {
-            int group = (int) (script / groupsPower(n - 1 - at) % GROUP);
+            int group = (int) (withoutLast(n - 1 - at, script) % GROUP);
             if (!doGroup(group)) {
                 return at;
             }
@@ -444,13 +445,13 @@ public final class RangeGraves {
         }
     }
 
-    /** 10 to the power of 5 * groups: the first number that needs more groups. */
-    private static long groupsPower(int groups) {
-        long power = 1;
+    /** What is left of a script ahead of so many last groups. */
+    private static long withoutLast(int groups, long script) {
+        long ahead = script;
         for (int i = 0; i < groups; i++) {
-            power *= GROUP;
+            ahead /= GROUP;
         }
-        return power;
+        return ahead;
     }
 
     /** Does a group of a script on the copy; false if it fails. */

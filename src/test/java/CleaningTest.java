@@ -118,8 +118,9 @@ public final class CleaningTest {
         x.undo();
         x.undo();
         x.put(10, 1);
+        x.open();
         x.bury(20, 20);
         Check.same("flush", x.flush(), 1);
-        Check.sameText("the grave goes", Check.everything(x), " | 1:10=1 latest 2 fewer 1");
+        Check.sameText("the grave goes", Check.everything(x), " | 1:10=1 eyes 1 latest 2 fewer 1");
     }
 }
