@@ -1,246 +1,59 @@
-/** Promises 11 to 17: actions and undo. */
+/** Actions and undo (in the terms of the document), and promises 11 to 17, a sentence each. */
 public final class ActionsTest {
     private static final int NONE = RangeGraves.NONE;
     private static final int[] NO_KEYS = {-1, 100, Integer.MIN_VALUE, Integer.MAX_VALUE};
+    private static final String ACTIONS = "ACTIONS AND UNDO";
+    private static final String FIVE_RUNS = "Gp01001fp02001fp03001fp04001fp05001f";
 
-    public static void main(String[] arguments) {
-        promise11Put();
-        promise12Bury();
-        promise11And12FortyEightWrites();
-        promise13Open();
-        promise14Close();
-        promise15Flush();
-        promise15FlushOfTooMuch();
-        promise16Merge();
-        promise16MergeOfTooMuch();
-        promise16MergeUpToTheLimit();
-        promise17Undo();
-        promise17UndoTakesAllBack();
-        promise17FourteenStates();
-        throwingCallsAreNoActions();
+    private static Document document;
+
+    public static void main(String[] arguments) throws Exception {
+        document = Document.of(arguments);
+        whatIsTheState();
+        eachCallIsAnAction();
+        undoIsNoAction();
+        stateAheadOfTheAction();
+        fourteenStates();
+        loadAndRestoreAreNoActions();
+        document.allSaid(ACTIONS);
+        promise11();
+        promise11Number();
+        promise11NoSuchKey();
+        promise11ValueOutOfRange();
+        promise11FortyEightWrites();
+        promise12();
+        promise12Keys();
+        promise12Answer();
+        promise12NoSuchKey();
+        promise12NoRow();
+        promise12FortyEightWrites();
+        promise13();
+        promise13TwoAreOpen();
+        promise14();
+        promise14Answer();
+        promise14NoSuchEye();
+        promise15();
+        promise15Answer();
+        promise15NoWrites();
+        promise15FiveRuns();
+        promise15TooMuch();
+        promise16();
+        promise16Answer();
+        promise16NoSuchRun();
+        promise16NoRunBehind();
+        promise16TooMuch();
+        promise17();
+        promise17Answer();
+        promise17NoneIsRemembered();
+        document.allSaid(11, 17);
         Check.end("ActionsTest");
     }
 
-    private static void promise11Put() {
-        RangeGraves x = new RangeGraves();
-        Check.same("put", x.put(0, 1), 1);
-        Check.same("put", x.put(99, 999), 2);
-        Check.same("put again", x.put(0, 5), 3);
-        Check.same("get", x.get(0, NONE), 5);
-        Check.same("get", x.get(99, NONE), 999);
-        Check.sameText("writes", Check.everything(x), "1:0=1 2:99=999 3:0=5 latest 3 fewer 0");
-        for (int k : NO_KEYS) {
-            Check.noPlace("put " + k, () -> x.put(k, 1));
-            Check.noPlace("put " + k + " 0", () -> x.put(k, 0));
-        }
-        for (int v : new int[] {0, -1, 1000, Integer.MIN_VALUE, Integer.MAX_VALUE}) {
-            Check.noArgument("put 0 " + v, () -> x.put(0, v));
-        }
-        x.flush();
-        Check.same("the numbers go on behind flush", x.put(1, 1), 4);
-        x.bury(0, 99);
-        x.flush();
-        x.merge(0);
-        Check.same("and where nothing is left", x.about(4), 0);
-        Check.same("they go on, too", x.put(1, 1), 6);
-    }
+    // ---- terms: actions and undo
 
-    private static void promise12Bury() {
-        RangeGraves x = Check.loaded("Gp10001p11002p12003p13004x1212");
-        Check.same("bury", x.bury(11, 13), 2);
-        Check.same("bury again", x.bury(11, 13), 0);
-        Check.same("bury all", x.bury(0, 99), 1);
-        Check.same("about 6", x.about(6), 0);
-        Check.same("about 0", x.about(0), 8);
-        x.put(99, 1);
-        x.put(0, 1);
-        Check.same("bury one", x.bury(99, 99), 1);
-        Check.same("bury the other one", x.bury(0, 0), 1);
-        for (int k : NO_KEYS) {
-            Check.noPlace("bury " + k + " 5", () -> x.bury(k, 5));
-            Check.noPlace("bury 5 " + k, () -> x.bury(5, k));
-        }
-        Check.noArgument("bury 6 5", () -> x.bury(6, 5));
-        Check.noArgument("bury 99 0", () -> x.bury(99, 0));
-        RangeGraves eyed = Check.loaded("Gp10001ox1010");
-        Check.same("what an eye sees is not counted", eyed.bury(10, 10), 0);
-        Check.same("the eye sees it still", eyed.get(10, 0), 1);
-    }
-
-    private static void promise11And12FortyEightWrites() {
-        RangeGraves x = new RangeGraves();
-        for (int i = 1; i <= 24; i++) {
-            Check.same("put", x.put(i, i), 2 * i - 1);
-            Check.same("bury", x.bury(50, 60), 0);
-        }
-        Check.noState("put 49", () -> x.put(1, 1));
-        Check.noState("bury 49", () -> x.bury(1, 1));
-        Check.noPlace("put of no key comes first", () -> x.put(100, 1));
-        Check.noArgument("put of no value, too", () -> x.put(1, 0));
-        Check.noPlace("bury of no key, too", () -> x.bury(1, 100));
-        Check.noArgument("bury of no row, too", () -> x.bury(1, 0));
-        Check.same("about 4", x.about(4), 48);
-        Check.same("flush", x.flush(), 24);
-        for (int i = 1; i <= 24; i++) {
-            x.put(i, i);
-        }
-        Check.noState("put when runs and memory have 48", () -> x.put(1, 1));
-        Check.noState("bury, too", () -> x.bury(1, 1));
-    }
-
-    private static void promise13Open() {
-        RangeGraves x = Check.loaded("Gp10001");
-        Check.same("open", x.open(), 0);
-        x.put(10, 2);
-        Check.same("open", x.open(), 1);
-        Check.same("its number", x.eye(1), 2);
-        Check.noState("open a third one", () -> x.open());
-        Check.same("about 3", x.about(3), 2);
-        x.close(0);
-        Check.same("open again", x.open(), 1);
-    }
-
-    private static void promise14Close() {
-        RangeGraves x = Check.loaded("Gp10001op10002o");
-        for (int e : new int[] {NONE, 2, Integer.MIN_VALUE, Integer.MAX_VALUE}) {
-            Check.noPlace("close " + e, () -> x.close(e));
-        }
-        Check.same("close 0", x.close(0), 1);
-        Check.same("the other one", x.eye(0), 2);
-        Check.noPlace("close 1", () -> x.close(1));
-        Check.same("close 0 again", x.close(0), 0);
-        Check.noPlace("close 0 of none", () -> x.close(0));
-        RangeGraves y = Check.loaded("Gp10001op10002o");
-        Check.same("close 1", y.close(1), 1);
-        Check.same("the first one stays", y.eye(0), 1);
-    }
-
-    private static void promise15Flush() {
-        RangeGraves x = new RangeGraves();
-        Check.noState("flush of nothing", () -> x.flush());
-        x.bury(0, 99);
-        Check.same("flush of which nothing is left", x.flush(), 0);
-        Check.same("no run", x.about(2), 0);
-        Check.noState("flush of nothing again", () -> x.flush());
-        x.put(10, 1);
-        x.put(10, 2);
-        x.put(11, 3);
-        Check.same("flush", x.flush(), 2);
-        x.bury(0, 30);
-        x.bury(10, 15);
-        Check.same("flush of graves that are cut", x.flush(), 3);
-        Check.sameText("the newest run is 0", Check.everything(x),
-                " | 5:0-9 5:16-30 6:10-15 | 3:10=2 4:11=3 latest 6 fewer 1");
-        for (int i = 0; i < 3; i++) {
-            x.put(20 + i, 1);
-            Check.same("flush", x.flush(), 1);
-        }
-        x.put(30, 1);
-        Check.noState("flush to a sixth run", () -> x.flush());
-        Check.same("memory is as it was", x.about(1), 1);
-        x.merge(3);
-        Check.same("runs behind a merge", x.about(2), 3);
-        Check.same("flush then", x.flush(), 1);
-    }
-
-    /** Key 0 in the oldest run, then a grave from 1 to 99, and so many graves that cut it. */
-    private static RangeGraves cutting(int graves, boolean runBetween) {
-        RangeGraves x = new RangeGraves();
-        x.put(0, 1);
-        x.flush();
-        x.bury(1, 99);
-        if (runBetween) {
-            x.flush();
-        }
-        for (int i = 0; i < graves; i++) {
-            x.bury(3 + 2 * i, 3 + 2 * i);
-        }
-        return x;
-    }
-
-    private static void promise15FlushOfTooMuch() {
-        RangeGraves x = cutting(23, false);
-        Check.same("flush to 48 writes", x.flush(), 47);
-        Check.same("about 4", x.about(4), 48);
-        Check.same("about 8", x.about(8), -23);
-        Check.noState("put", () -> x.put(1, 1));
-        RangeGraves y = cutting(24, false);
-        String before = Check.everything(y);
-        Check.noState("flush to 50 writes", () -> y.flush());
-        Check.sameText("nothing is different", Check.everything(y), before);
-        y.undo();
-        Check.same("the last action is no flush", y.about(1), 24);
-    }
-
-    private static void promise16Merge() {
-        RangeGraves x = Check.loaded("Gp10001p11002fp10003fx1111fp12004fx4050f");
-        for (int i : new int[] {NONE, 5, Integer.MIN_VALUE, Integer.MAX_VALUE}) {
-            Check.noPlace("merge " + i, () -> x.merge(i));
-        }
-        Check.noState("merge of the last run", () -> x.merge(4));
-        Check.same("merge 1", x.merge(1), 2);
-        Check.sameText("in their place", Check.everything(x),
-                " | 6:40-50 | 4:11-11 5:12=4 | 3:10=3 | 1:10=1 2:11=2 latest 6 fewer 0");
-        Check.same("merge 2", x.merge(2), 2);
-        Check.sameText("the last two", Check.everything(x),
-                " | 6:40-50 | 4:11-11 5:12=4 | 2:11=2 3:10=3 latest 6 fewer 1");
-        Check.same("merge 1", x.merge(1), 2);
-        Check.sameText("an entry under a grave", Check.everything(x),
-                " | 6:40-50 | 3:10=3 5:12=4 latest 6 fewer 3");
-        Check.noPlace("merge 2 of two", () -> x.merge(2));
-        Check.noState("merge 1 of two", () -> x.merge(1));
-        Check.same("merge 0", x.merge(0), 2);
-        x.bury(10, 12);
-        x.flush();
-        Check.same("merge of which nothing is left", x.merge(0), 0);
-        Check.same("no run", x.about(2), 0);
-        Check.noPlace("merge 0 of none", () -> x.merge(0));
-    }
-
-    private static void promise16MergeOfTooMuch() {
-        RangeGraves x = cutting(23, true);
-        x.flush();
-        Check.same("merge to 48 writes", x.merge(0), 47);
-        Check.same("about 4", x.about(4), 48);
-        RangeGraves y = cutting(24, true);
-        y.flush();
-        String before = Check.everything(y);
-        Check.noState("merge to 50 writes", () -> y.merge(0));
-        Check.sameText("nothing is different", Check.everything(y), before);
-        Check.noState("merge of the last run", () -> y.merge(2));
-        Check.same("the other merge", y.merge(1), 1);
-        Check.same("and then all", y.merge(0), 1);
-    }
-
-    /** The older one of the two runs has more writes than the run behind both. */
-    private static void promise16MergeUpToTheLimit() {
-        RangeGraves x = Check.loaded("Gp00001fx0199p98001p99001f");
-        for (int i = 0; i < 22; i++) {
-            x.bury(3 + 2 * i, 3 + 2 * i);
-        }
-        x.flush();
-        Check.same("merge to 48 writes", x.merge(0), 47);
-        x.undo();
-        x.undo();
-        x.bury(60, 60);
-        x.flush();
-        Check.noState("merge to 50 writes", () -> x.merge(0));
-    }
-
-    private static void promise17Undo() {
-        RangeGraves x = new RangeGraves();
-        Check.noState("undo of nothing", () -> x.undo());
-        x.put(1, 1);
-        x.put(2, 2);
-        Check.same("undo", x.undo(), 1);
-        Check.sameText("of put", Check.everything(x), "1:1=1 latest 1 fewer 0");
-        Check.same("undo", x.undo(), 0);
-        Check.sameText("of the first one", Check.everything(x), " latest 0 fewer 0");
-        Check.noState("undo is no action", () -> x.undo());
-        Check.same("the number is given again", x.put(3, 3), 1);
-    }
-
-    private static void promise17UndoTakesAllBack() {
+    private static void whatIsTheState() {
+        document.says(ACTIONS, "The methods in the section \"actions\" change the state, which consists of everything but "
+                + "the text and the save slots.");
         RangeGraves x = Check.loaded("Gp10001fp10002fp20003x0030op20004o");
         String[] before = new String[8];
         for (int i = 0; i < before.length; i++) {
@@ -255,23 +68,91 @@ public final class ActionsTest {
                 case 6: x.close(1); break;
                 default: x.put(1, 1); break;
             }
+            Check.same(before[i] + " becomes different", before[i].equals(Check.everything(x)) ? 0 : 1, 1);
         }
+        x.append('q');
+        x.save(1);
+        String saved = Check.everything(x);
         for (int i = before.length - 1; i >= 0; i--) {
             Check.same("undo " + i, x.undo(), i);
             Check.sameText("undo " + i, Check.everything(x), before[i]);
         }
-        Check.noState("undo of load", () -> x.undo());
+        Check.noState("undo", () -> x.undo());
+        Check.same("the text is not taken back", x.clearText(), 35);
+        x.restore(1);
+        Check.sameText("nor is the slot", Check.everything(x), saved);
+        Check.noState("nor filled", () -> x.restore(0));
     }
 
-    private static void promise17FourteenStates() {
-        for (int actions : new int[] {13, 14, 15, 29, 40}) {
+    private static void eachCallIsAnAction() {
+        document.says(ACTIONS, "Each call of one of them that does not throw an exception is an action, also if nothing "
+                + "becomes different");
+        RangeGraves x = Check.loaded("Gp10001f");
+        x.put(10, 1);
+        x.put(10, 1);
+        x.bury(90, 90);
+        x.flush();
+        x.open();
+        x.close(0);
+        x.merge(0);
+        for (int left = 6; left >= 0; left--) {
+            Check.same("undo", x.undo(), left);
+        }
+        Check.noPlace("put", () -> x.put(100, 1));
+        Check.noArgument("put", () -> x.put(1, 0));
+        Check.noArgument("bury", () -> x.bury(1, 0));
+        Check.noPlace("close", () -> x.close(0));
+        Check.noState("merge", () -> x.merge(0));
+        Check.noPlace("merge", () -> x.merge(1));
+        Check.noState("flush", () -> x.flush());
+        Check.noState("a call that throws is no action", () -> x.undo());
+    }
+
+    private static void undoIsNoAction() {
+        document.says(ACTIONS, "(undo is none).");
+        RangeGraves x = new RangeGraves();
+        x.put(1, 1);
+        x.put(2, 2);
+        x.put(3, 3);
+        Check.same("undo", x.undo(), 2);
+        Check.same("undo is not taken back", x.undo(), 1);
+        Check.sameText("what is left", Check.everything(x), "1:1=1 latest 1 fewer 0");
+        Check.same("put", x.put(4, 4), 2);
+        Check.same("undo", x.undo(), 1);
+        Check.same("undo", x.undo(), 0);
+        Check.noState("undo", () -> x.undo());
+    }
+
+    private static void stateAheadOfTheAction() {
+        document.says(ACTIONS, "Before each action, the state is remembered.");
+        RangeGraves x = new RangeGraves();
+        x.put(10, 1);
+        x.open();
+        x.put(10, 2);
+        x.undo();
+        Check.sameText("the state ahead of put", Check.everything(x), "1:10=1 eyes 1 latest 1 fewer 0");
+        x.flush();
+        x.put(20, 2);
+        x.flush();
+        x.merge(0);
+        x.undo();
+        Check.sameText("the state ahead of merge", Check.everything(x),
+                " | 2:20=2 | 1:10=1 eyes 1 latest 2 fewer 0");
+        x.close(0);
+        x.undo();
+        Check.same("the state ahead of close", x.eye(0), 1);
+    }
+
+    private static void fourteenStates() {
+        document.says(ACTIONS, "At most 14 states are remembered; when one more is remembered, the oldest one is forgotten.");
+        for (int actions : new int[] {1, 13, 14, 15, 16, 27, 28, 29, 30, 40}) {
             RangeGraves x = new RangeGraves();
             for (int i = 0; i < actions; i++) {
                 x.put(i, 1);
             }
             int left = Math.min(14, actions);
             for (int i = left - 1; i >= 0; i--) {
-                Check.same("undo", x.undo(), i);
+                Check.same("undo of " + actions, x.undo(), i);
                 Check.same("about 0", x.about(0), actions - left + i);
             }
             Check.noState("undo of too much", () -> x.undo());
@@ -282,24 +163,441 @@ public final class ActionsTest {
             x.undo();
             x.bury(50, 50);
         }
-        Check.same("undo between", x.undo(), 13);
+        for (int i = 13; i >= 0; i--) {
+            Check.same("undo between", x.undo(), i);
+            Check.same("writes", x.about(4), 2 + i);
+        }
     }
 
-    private static void throwingCallsAreNoActions() {
-        RangeGraves x = Check.loaded("Gp10001f");
-        x.put(1, 1);
-        Check.noPlace("put", () -> x.put(100, 1));
-        Check.noArgument("put", () -> x.put(1, 0));
-        Check.noArgument("bury", () -> x.bury(1, 0));
-        Check.noPlace("close", () -> x.close(0));
-        Check.noState("merge", () -> x.merge(0));
-        Check.same("undo", x.undo(), 0);
-        Check.noState("flush", () -> x.flush());
-        Check.noState("no other one is remembered", () -> x.undo());
-        // An action that makes nothing different is remembered all the same.
-        x.bury(90, 90);
-        x.open();
+    private static void loadAndRestoreAreNoActions() {
+        document.says(ACTIONS, "load and restore are not actions.");
+        RangeGraves x = Check.loaded("Gp10001p10002");
+        Check.noState("undo behind load", () -> x.undo());
+        x.load();
+        Check.noState("undo behind another load", () -> x.undo());
+        x.save(0);
+        x.restore(0);
+        Check.noState("undo behind restore", () -> x.undo());
+    }
+
+    // ---- promise 11: put
+
+    private static void promise11() {
+        document.says(11, "Writes an entry. - `k`: key - `v`: 1 to 999");
+        RangeGraves x = new RangeGraves();
+        x.put(0, 1);
+        x.put(99, 999);
+        x.put(0, 5);
+        Check.same("get 0", x.get(0, NONE), 5);
+        Check.same("get 99", x.get(99, NONE), 999);
+        Check.sameText("writes", Check.everything(x), "1:0=1 2:99=999 3:0=5 latest 3 fewer 0");
+    }
+
+    private static void promise11Number() {
+        document.says(11, "Returns its number.");
+        RangeGraves x = new RangeGraves();
+        Check.same("put", x.put(7, 70), 1);
+        Check.same("put", x.put(7, 70), 2);
+        x.bury(0, 9);
+        Check.same("put behind a grave", x.put(7, 70), 4);
+        x.flush();
+        Check.same("put behind flush", x.put(7, 70), 5);
+        x.undo();
+        Check.same("put behind undo", x.put(7, 70), 5);
+    }
+
+    private static void promise11NoSuchKey() {
+        document.says(11, "Throws `IndexOutOfBoundsException` if there is no such key");
+        RangeGraves x = new RangeGraves();
+        for (int k : NO_KEYS) {
+            Check.noPlace("put " + k, () -> x.put(k, 1));
+            Check.noPlace("put of no value " + k, () -> x.put(k, 0));
+        }
+        Check.same("put 0", x.put(0, 1), 1);
+        Check.same("put 99", x.put(99, 1), 2);
+    }
+
+    private static void promise11ValueOutOfRange() {
+        document.says(11, "Throws `IllegalArgumentException` if v is out of range");
+        RangeGraves x = new RangeGraves();
+        for (int v : new int[] {0, -1, 1000, Integer.MIN_VALUE, Integer.MAX_VALUE}) {
+            Check.noArgument("put of " + v, () -> x.put(0, v));
+        }
+        Check.same("put of 1", x.put(0, 1), 1);
+        Check.same("put of 999", x.put(0, 999), 2);
+    }
+
+    private static void promise11FortyEightWrites() {
+        document.says(11, "Throws `IllegalStateException` if there are 48 writes");
+        RangeGraves x = new RangeGraves();
+        for (int number = 1; number <= 48; number++) {
+            Check.same("put", x.put(number, 1), number);
+        }
+        Check.noState("put", () -> x.put(1, 1));
+        Check.noPlace("put of no key", () -> x.put(100, 1));
+        Check.noArgument("put of no value", () -> x.put(1, 0));
+        Check.same("flush of 48 writes", x.flush(), 48);
+        Check.noState("put", () -> x.put(1, 1));
+        x.undo();
+        x.undo();
+        Check.same("put where there are 47", x.put(1, 1), 48);
+    }
+
+    // ---- promise 12: bury
+
+    private static void promise12() {
+        document.says(12, "Writes a grave.");
+        RangeGraves x = Check.loaded("Gp10001p20002");
+        x.bury(15, 30);
+        Check.sameText("writes", Check.everything(x), "1:10=1 2:20=2 3:15-30 latest 3 fewer 0");
+        Check.same("get 10", x.get(10, NONE), 1);
+        Check.same("get 20", x.get(20, NONE), NONE);
+    }
+
+    private static void promise12Keys() {
+        document.says(12, "- `from`: first key - `to`: last key");
+        RangeGraves x = Check.loaded("Gp09001p10001p11001p12001p13001");
+        Check.same("bury", x.bury(10, 12), 3);
+        Check.same("the one below", x.get(9, NONE), 1);
+        Check.same("the first one", x.get(10, NONE), NONE);
+        Check.same("the last one", x.get(12, NONE), NONE);
+        Check.same("the one above", x.get(13, NONE), 1);
+        Check.same("bury of one key", x.bury(13, 13), 1);
+        Check.same("bury of all keys", x.bury(0, 99), 1);
+    }
+
+    private static void promise12Answer() {
+        document.says(12, "Returns for how many keys of it something is seen now, ahead of it.");
+        RangeGraves x = Check.loaded("Gp10001p11002p12003p13004x1212");
+        Check.same("bury", x.bury(11, 13), 2);
+        Check.same("bury again", x.bury(11, 13), 0);
+        Check.same("bury all", x.bury(0, 99), 1);
+        Check.same("bury nothing", x.bury(0, 99), 0);
+        Check.same("bury of a new object", new RangeGraves().bury(0, 99), 0);
+        RangeGraves eyed = Check.loaded("Gp10001ox1010");
+        Check.same("what an eye sees is not counted", eyed.bury(10, 10), 0);
+        Check.same("the eye sees it still", eyed.get(10, 0), 1);
+        Check.same("keys in runs, a key once", Check.loaded("Gp10001fp10002fp10003p11001").bury(10, 11), 2);
+    }
+
+    private static void promise12NoSuchKey() {
+        document.says(12, "Throws `IndexOutOfBoundsException` if there is no such key");
+        RangeGraves x = new RangeGraves();
+        for (int k : NO_KEYS) {
+            Check.noPlace("bury from " + k + " to 0", () -> x.bury(k, 0));
+            Check.noPlace("bury from " + k + " to 99", () -> x.bury(k, 99));
+            Check.noPlace("bury from 0 to " + k, () -> x.bury(0, k));
+            Check.noPlace("bury from 99 to " + k, () -> x.bury(99, k));
+        }
+        Check.noPlace("bury from 100 to -1", () -> x.bury(100, -1));
+        Check.same("no grave was written", x.about(0), 0);
+    }
+
+    private static void promise12NoRow() {
+        document.says(12, "Throws `IllegalArgumentException` if to is less than from");
+        RangeGraves x = new RangeGraves();
+        Check.noArgument("bury from 1 to 0", () -> x.bury(1, 0));
+        Check.noArgument("bury from 99 to 98", () -> x.bury(99, 98));
+        Check.noArgument("bury from 99 to 0", () -> x.bury(99, 0));
+        Check.same("no grave was written", x.about(0), 0);
+        Check.same("bury from 98 to 98", x.bury(98, 98), 0);
+        Check.same("bury from 98 to 99", x.bury(98, 99), 0);
+        Check.same("two were", x.about(0), 2);
+    }
+
+    private static void promise12FortyEightWrites() {
+        document.says(12, "Throws `IllegalStateException` if there are 48 writes");
+        RangeGraves x = new RangeGraves();
+        for (int number = 1; number <= 48; number++) {
+            Check.same("bury", x.bury(number, number), 0);
+            Check.same("writes", x.about(4), number);
+        }
+        Check.noState("bury", () -> x.bury(1, 1));
+        Check.noPlace("bury of no key", () -> x.bury(1, 100));
+        Check.noArgument("bury of no row", () -> x.bury(1, 0));
+        x.undo();
+        Check.same("bury where there are 47", x.bury(0, 99), 0);
+        x.flush();
+        Check.same("bury where all were dropped", x.bury(0, 99), 0);
+    }
+
+    // ---- promises 13 and 14: open and close
+
+    private static void promise13() {
+        document.says(13, "Opens an eye.");
+        document.says(13, "Returns its number, as an eye.");
+        RangeGraves x = Check.loaded("Gp10001p10002");
+        Check.same("open", x.open(), 0);
+        Check.same("what it sees", x.get(10, 0), 2);
+        x.put(10, 3);
+        Check.same("open", x.open(), 1);
+        Check.same("what it sees", x.get(10, 1), 3);
+        Check.same("the first one", x.get(10, 0), 2);
         x.close(0);
-        Check.same("undo", x.undo(), 2);
+        Check.same("open again", x.open(), 1);
+        Check.same("open of a new object", new RangeGraves().open(), 0);
+    }
+
+    private static void promise13TwoAreOpen() {
+        document.says(13, "Throws `IllegalStateException` if 2 are open");
+        RangeGraves x = new RangeGraves();
+        x.open();
+        Check.same("open where 1 is open", x.open(), 1);
+        Check.noState("open", () -> x.open());
+        Check.same("eyes", x.about(3), 2);
+        x.close(1);
+        Check.same("open where 1 is open", x.open(), 1);
+        Check.noState("open", () -> x.open());
+    }
+
+    private static void promise14() {
+        document.says(14, "Closes an eye; one behind it has a number that is 1 less. - `e`: eye");
+        RangeGraves x = Check.loaded("Gp10001op10002o");
+        x.close(0);
+        Check.same("the one behind it", x.eye(0), 2);
+        Check.same("what it sees", x.get(10, 0), 2);
+        Check.noPlace("its number of before", () -> x.eye(1));
+        RangeGraves y = Check.loaded("Gp10001op10002o");
+        y.close(1);
+        Check.same("the one ahead of it stays", y.eye(0), 1);
+        Check.noPlace("the one that is closed", () -> y.eye(1));
+    }
+
+    private static void promise14Answer() {
+        document.says(14, "Returns the open eyes then.");
+        Check.same("close 0 of one", Check.loaded("Go").close(0), 0);
+        Check.same("close 0 of two", Check.loaded("Goo").close(0), 1);
+        Check.same("close 1 of two", Check.loaded("Goo").close(1), 1);
+    }
+
+    private static void promise14NoSuchEye() {
+        document.says(14, "Throws `IndexOutOfBoundsException` if no such eye is open");
+        for (int eyes = 0; eyes <= 2; eyes++) {
+            RangeGraves x = Check.loaded("Goo".substring(0, 1 + eyes));
+            for (int e : new int[] {NONE, -2, eyes, 2, Integer.MIN_VALUE, Integer.MAX_VALUE}) {
+                Check.noPlace("close " + e + " of " + eyes, () -> x.close(e));
+            }
+            Check.same("eyes", x.about(3), eyes);
+        }
+        RangeGraves x = Check.loaded("Go");
+        x.close(0);
+        Check.noPlace("close again", () -> x.close(0));
+    }
+
+    // ---- promise 15: flush
+
+    private static void promise15() {
+        document.says(15, "Flushes memory.");
+        RangeGraves x = Check.loaded("Gp10001p10002p11003f");
+        x.bury(0, 30);
+        x.bury(10, 15);
+        x.flush();
+        Check.sameText("the newest run is 0", Check.everything(x),
+                " | 4:0-9 4:16-30 5:10-15 | 2:10=2 3:11=3 latest 5 fewer 0");
+    }
+
+    private static void promise15Answer() {
+        document.says(15, "Returns the writes of memory that became a run, how many.");
+        String[] memories = {"p20001", "x2020", "p20001p20002", "p20001x2020", "p20001p21001", "x2020x2020",
+            "x0030x1015", "x0030x1010x2020"};
+        int[] due = {1, 1, 1, 1, 2, 1, 3, 5};
+        for (int i = 0; i < memories.length; i++) {
+            RangeGraves x = Check.loaded("Gp50001f" + memories[i]);
+            Check.same("flush of " + memories[i], x.flush(), due[i]);
+            Check.same("writes of the run", x.run(0, 0) + x.run(0, 1), due[i]);
+        }
+        Check.same("flush of which nothing is left", Check.loaded("Gx0099").flush(), 0);
+        Check.same("flush of which nothing is left", Check.loaded("Gp10001x0099").flush(), 0);
+    }
+
+    private static void promise15NoWrites() {
+        document.says(15, "Throws `IllegalStateException` if memory has no writes");
+        RangeGraves x = new RangeGraves();
+        Check.noState("flush of a new object", () -> x.flush());
+        x.put(10, 1);
+        x.flush();
+        Check.noState("flush behind flush", () -> x.flush());
+        Check.same("runs", x.about(2), 1);
+        RangeGraves y = new RangeGraves();
+        y.bury(10, 20);
+        Check.same("flush of which nothing is left", y.flush(), 0);
+        Check.noState("flush behind it", () -> y.flush());
+    }
+
+    private static void promise15FiveRuns() {
+        document.says(15, ", there are 5 runs,");
+        RangeGraves x = Check.loaded(FIVE_RUNS);
+        Check.noState("flush of no writes", () -> x.flush());
+        x.put(6, 1);
+        Check.noState("flush to a sixth run", () -> x.flush());
+        Check.same("memory is as it was", x.about(1), 1);
+        x.merge(3);
+        Check.same("flush to a fifth run", x.flush(), 1);
+        Check.same("runs", x.about(2), 5);
+    }
+
+    /** Key 0 in the oldest run, then a grave from 1 to 99, and so many graves that cut it. */
+    private static RangeGraves cutting(int graves, boolean runBetween) {
+        RangeGraves x = Check.loaded(runBetween ? "Gp00001fx0199f" : "Gp00001fx0199");
+        for (int i = 0; i < graves; i++) {
+            x.bury(3 + 2 * i, 3 + 2 * i);
+        }
+        return x;
+    }
+
+    private static void promise15TooMuch() {
+        document.says(15, "or there would be more than 48 writes");
+        RangeGraves x = cutting(23, false);
+        Check.same("flush to 48 writes", x.flush(), 47);
+        Check.same("about 4", x.about(4), 48);
+        Check.same("about 8", x.about(8), -23);
+        RangeGraves y = cutting(23, false);
+        y.put(98, 1);
+        String before = Check.everything(y);
+        Check.noState("flush to 49 writes", () -> y.flush());
+        Check.sameText("nothing is different", Check.everything(y), before);
+        y.undo();
+        Check.same("the last action is no flush", y.about(1), 24);
+        Check.noState("flush to 50 writes", () -> cutting(24, false).flush());
+        Check.noState("flush to 94 writes", () -> cutting(46, false).flush());
+    }
+
+    // ---- promise 16: merge
+
+    private static void promise16() {
+        document.says(16, "Merges a run with the one behind it. - `i`: run");
+        RangeGraves x = Check.loaded("Gp10001p11002fp10003fx1111fp12004fx4050f");
+        x.merge(1);
+        Check.sameText("in their place", Check.everything(x),
+                " | 6:40-50 | 4:11-11 5:12=4 | 3:10=3 | 1:10=1 2:11=2 latest 6 fewer 0");
+        x.merge(2);
+        Check.sameText("the last two", Check.everything(x),
+                " | 6:40-50 | 4:11-11 5:12=4 | 2:11=2 3:10=3 latest 6 fewer 1");
+        x.merge(1);
+        Check.sameText("an entry under a grave", Check.everything(x),
+                " | 6:40-50 | 3:10=3 5:12=4 latest 6 fewer 3");
+        x.put(10, 1);
+        x.merge(0);
+        Check.sameText("memory stays", Check.everything(x), "7:10=1 | 3:10=3 5:12=4 latest 7 fewer 4");
+    }
+
+    private static void promise16Answer() {
+        document.says(16, "Returns the writes of the merged run, how many (0 if none is left).");
+        String[] histories = {"Gp10001fp20001f", "Gp10001fp10002f", "Gp10001p20001fp20001p30001f", "Gp10001fx1010f",
+            "Gp10001fx2020f", "Gp10001fx0030fx1010x2020f", "Gp10001fx0030fx1010fp20001f"};
+        int[] due = {2, 1, 3, 0, 1, 5, 2};
+        for (int i = 0; i < histories.length; i++) {
+            RangeGraves x = Check.loaded(histories[i]);
+            Check.same("merge 0 of " + histories[i], x.merge(0), due[i]);
+        }
+        Check.same("merge 1 of three", Check.loaded("Gp10001fx1010fp20001f").merge(1), 0);
+    }
+
+    private static void promise16NoSuchRun() {
+        document.says(16, "Throws `IndexOutOfBoundsException` if there is no such run");
+        for (int many = 0; many <= 5; many++) {
+            RangeGraves x = Check.loaded(FIVE_RUNS.substring(0, 1 + 7 * many));
+            for (int i : new int[] {NONE, -2, many, 5, Integer.MIN_VALUE, Integer.MAX_VALUE}) {
+                Check.noPlace("merge " + i + " of " + many, () -> x.merge(i));
+            }
+        }
+    }
+
+    private static void promise16NoRunBehind() {
+        document.says(16, "Throws `IllegalStateException` if there is no run behind it");
+        for (int many = 1; many <= 5; many++) {
+            RangeGraves x = Check.loaded(FIVE_RUNS.substring(0, 1 + 7 * many));
+            int last = many - 1;
+            Check.noState("merge of the last run of " + many, () -> x.merge(last));
+            if (many > 1) {
+                Check.same("merge of the one ahead of it", x.merge(last - 1), 2);
+            }
+        }
+    }
+
+    private static void promise16TooMuch() {
+        document.says(16, ", or there would be more than 48 writes");
+        RangeGraves x = cutting(23, true);
+        x.flush();
+        Check.same("merge to 48 writes", x.merge(0), 47);
+        Check.same("about 4", x.about(4), 48);
+        RangeGraves y = cutting(23, true);
+        y.put(98, 1);
+        y.flush();
+        String before = Check.everything(y);
+        Check.noState("merge to 49 writes", () -> y.merge(0));
+        Check.sameText("nothing is different", Check.everything(y), before);
+        Check.noState("merge of the last run", () -> y.merge(2));
+        Check.same("the other merge", y.merge(1), 1);
+        Check.same("and then all", y.merge(0), 2);
+        // A write in memory counts, too.
+        RangeGraves z = cutting(23, true);
+        z.flush();
+        z.put(98, 1);
+        Check.noState("merge to 49 writes, one of them in memory", () -> z.merge(0));
+        promise16UpToTheLimit();
+    }
+
+    /** The older one of the two runs has more writes than the run behind both. */
+    private static void promise16UpToTheLimit() {
+        RangeGraves x = Check.loaded("Gp00001fx0199p98001p99001f");
+        for (int i = 0; i < 22; i++) {
+            x.bury(3 + 2 * i, 3 + 2 * i);
+        }
+        x.flush();
+        Check.same("merge to 48 writes", x.merge(0), 47);
+        x.undo();
+        x.undo();
+        x.bury(60, 60);
+        x.flush();
+        Check.noState("merge to 50 writes", () -> x.merge(0));
+    }
+
+    // ---- promise 17: undo
+
+    private static void promise17() {
+        document.says(17, "Takes back the last action that is remembered.");
+        RangeGraves x = new RangeGraves();
+        x.put(1, 1);
+        x.put(2, 2);
+        x.undo();
+        Check.sameText("put 2 is taken back", Check.everything(x), "1:1=1 latest 1 fewer 0");
+        Check.same("its number is given again", x.bury(3, 3), 0);
+        Check.same("to the grave", x.about(0), 2);
+        x.undo();
+        x.undo();
+        Check.sameText("all is taken back", Check.everything(x), " latest 0 fewer 0");
+    }
+
+    private static void promise17Answer() {
+        document.says(17, "Returns how many states are still remembered.");
+        RangeGraves x = new RangeGraves();
+        x.put(1, 1);
+        x.put(2, 2);
+        Check.same("undo", x.undo(), 1);
+        Check.same("undo", x.undo(), 0);
+        for (int i = 0; i < 14; i++) {
+            x.open();
+            x.close(0);
+        }
+        Check.same("undo of 28 actions", x.undo(), 13);
+    }
+
+    private static void promise17NoneIsRemembered() {
+        document.says(17, "Throws `IllegalStateException` if none is remembered");
+        RangeGraves x = new RangeGraves();
+        Check.noState("undo of a new object", () -> x.undo());
+        x.put(1, 1);
+        x.undo();
+        Check.noState("undo of too much", () -> x.undo());
+        Check.same("nothing is different", x.about(0), 0);
+        for (int i = 0; i < 15; i++) {
+            x.put(1, 1);
+        }
+        for (int i = 0; i < 14; i++) {
+            x.undo();
+        }
+        Check.noState("undo of the one that is forgotten", () -> x.undo());
+        Check.same("nothing is different", x.about(0), 1);
     }
 }

@@ -6,23 +6,25 @@ final class Check {
 
     private static int looked = 0;
     private static int wrong = 0;
+    private static String held = "";
 
     private Check() {
     }
 
+    /** Tells what the checks behind it hold to, for the lines of wrong answers. */
+    static void hold(String sentence) {
+        held = sentence;
+    }
+
     static void same(String what, long got, long due) {
-        looked++;
-        if (got != due) {
-            wrong++;
-            System.out.println(what + " answered " + got + ", due is " + due);
-        }
+        sameText(what, Long.toString(got), Long.toString(due));
     }
 
     static void sameText(String what, String got, String due) {
         looked++;
         if (!got.equals(due)) {
             wrong++;
-            System.out.println(what + " answered " + got + ", due is " + due);
+            System.out.println((held.isEmpty() ? "" : "[" + held + "] ") + what + " answered " + got + ", due is " + due);
         }
     }
 
@@ -88,6 +90,23 @@ final class Check {
             all.append(e == 0 ? " eyes " : ",").append(x.eye(e));
         }
         return all.append(" latest ").append(x.about(0)).append(" fewer ").append(x.about(8)).toString();
+    }
+
+    /**
+     * All that can be told of an object, with its remembered states, its save slots and its text. The
+     * object is used up by it.
+     */
+    static String whole(RangeGraves x) {
+        StringBuilder all = new StringBuilder(everything(x)).append(" text ").append(x.errorPosition());
+        for (int i = 0; i < 14 && told(() -> x.undo()).length() < 3; i++) {
+            all.append("; undo ").append(everything(x));
+        }
+        for (int slot = 0; slot < 2; slot++) {
+            int from = slot;
+            all.append("; restore ").append(told(() -> x.restore(from))).append(everything(x));
+        }
+        all.append("; load ").append(told(() -> x.load())).append(everything(x));
+        return all.append("; length ").append(x.clearText()).toString();
     }
 
     static void end(String name) {
