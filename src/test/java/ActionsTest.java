@@ -3,7 +3,6 @@ public final class ActionsTest {
     private static final int NONE = RangeGraves.NONE;
     private static final int[] NO_KEYS = {-1, 100, Integer.MIN_VALUE, Integer.MAX_VALUE};
     private static final String ACTIONS = "ACTIONS AND UNDO";
-    private static final String FIVE_RUNS = "Gp01001fp02001fp03001fp04001fp05001f";
 
     private static Document document;
 
@@ -52,8 +51,8 @@ public final class ActionsTest {
     // ---- terms: actions and undo
 
     private static void whatIsTheState() {
-        document.says(ACTIONS, "The methods in the section \"actions\" change the state, which consists of everything but "
-                + "the text and the save slots.");
+        document.says(ACTIONS, "The methods in the section \"actions\" change the state, which consists of "
+                + "everything but the text and the save slots.");
         RangeGraves x = Check.loaded("Gp10001fp10002fp20003x0030op20004o");
         String[] before = new String[8];
         for (int i = 0; i < before.length; i++) {
@@ -85,8 +84,8 @@ public final class ActionsTest {
     }
 
     private static void eachCallIsAnAction() {
-        document.says(ACTIONS, "Each call of one of them that does not throw an exception is an action, also if nothing "
-                + "becomes different");
+        document.says(ACTIONS, "Each call of one of them that does not throw an exception is an action, also "
+                + "if nothing becomes different");
         RangeGraves x = Check.loaded("Gp10001f");
         x.put(10, 1);
         x.put(10, 1);
@@ -144,7 +143,8 @@ public final class ActionsTest {
     }
 
     private static void fourteenStates() {
-        document.says(ACTIONS, "At most 14 states are remembered; when one more is remembered, the oldest one is forgotten.");
+        document.says(ACTIONS, "At most 14 states are remembered; when one more is remembered, the oldest one "
+                + "is forgotten.");
         for (int actions : new int[] {1, 13, 14, 15, 16, 27, 28, 29, 30, 40}) {
             RangeGraves x = new RangeGraves();
             for (int i = 0; i < actions; i++) {
@@ -426,7 +426,7 @@ public final class ActionsTest {
 
     private static void promise15FiveRuns() {
         document.says(15, ", there are 5 runs,");
-        RangeGraves x = Check.loaded(FIVE_RUNS);
+        RangeGraves x = Check.loaded(Check.FIVE_RUNS);
         Check.noState("flush of no writes", () -> x.flush());
         x.put(6, 1);
         Check.noState("flush to a sixth run", () -> x.flush());
@@ -436,30 +436,42 @@ public final class ActionsTest {
         Check.same("runs", x.about(2), 5);
     }
 
-    /** Key 0 in the oldest run, then a grave from 1 to 99, and so many graves that cut it. */
-    private static RangeGraves cutting(int graves, boolean runBetween) {
-        RangeGraves x = Check.loaded(runBetween ? "Gp00001fx0199f" : "Gp00001fx0199");
-        for (int i = 0; i < graves; i++) {
-            x.bury(3 + 2 * i, 3 + 2 * i);
-        }
-        return x;
-    }
-
     private static void promise15TooMuch() {
         document.says(15, "or there would be more than 48 writes");
-        RangeGraves x = cutting(23, false);
+        RangeGraves x = Check.cutting(23, false);
         Check.same("flush to 48 writes", x.flush(), 47);
         Check.same("about 4", x.about(4), 48);
         Check.same("about 8", x.about(8), -23);
-        RangeGraves y = cutting(23, false);
+        RangeGraves y = Check.cutting(23, false);
         y.put(98, 1);
         String before = Check.everything(y);
         Check.noState("flush to 49 writes", () -> y.flush());
         Check.sameText("nothing is different", Check.everything(y), before);
         y.undo();
         Check.same("the last action is no flush", y.about(1), 24);
-        Check.noState("flush to 50 writes", () -> cutting(24, false).flush());
-        Check.noState("flush to 94 writes", () -> cutting(46, false).flush());
+        Check.noState("flush to 50 writes", () -> Check.cutting(24, false).flush());
+        Check.noState("flush to 94 writes", () -> Check.cutting(46, false).flush());
+        promise15TooMuchWithoutRuns();
+    }
+
+    private static void promise15TooMuchWithoutRuns() {
+        RangeGraves x = Check.eyed(24);
+        x.bury(0, 99);
+        Check.same("flush to 48 writes, without a run", x.flush(), 48);
+        RangeGraves y = Check.eyed(24);
+        y.bury(0, 99);
+        y.put(1, 1);
+        Check.noState("flush to 49 writes, without a run", () -> y.flush());
+        RangeGraves z = Check.eyed(46);
+        z.bury(0, 99);
+        z.open();
+        z.bury(0, 99);
+        Check.noState("flush to 138 writes, without a run", () -> z.flush());
+        Check.same("which is no action", z.undo(), 13);
+        z.undo();
+        z.undo();
+        z.undo();
+        Check.same("flush of the entries", z.flush(), 46);
     }
 
     // ---- promise 16: merge
@@ -496,7 +508,7 @@ public final class ActionsTest {
     private static void promise16NoSuchRun() {
         document.says(16, "Throws `IndexOutOfBoundsException` if there is no such run");
         for (int many = 0; many <= 5; many++) {
-            RangeGraves x = Check.loaded(FIVE_RUNS.substring(0, 1 + 7 * many));
+            RangeGraves x = Check.loaded(Check.FIVE_RUNS.substring(0, 1 + 7 * many));
             for (int i : new int[] {NONE, -2, many, 5, Integer.MIN_VALUE, Integer.MAX_VALUE}) {
                 Check.noPlace("merge " + i + " of " + many, () -> x.merge(i));
             }
@@ -506,7 +518,7 @@ public final class ActionsTest {
     private static void promise16NoRunBehind() {
         document.says(16, "Throws `IllegalStateException` if there is no run behind it");
         for (int many = 1; many <= 5; many++) {
-            RangeGraves x = Check.loaded(FIVE_RUNS.substring(0, 1 + 7 * many));
+            RangeGraves x = Check.loaded(Check.FIVE_RUNS.substring(0, 1 + 7 * many));
             int last = many - 1;
             Check.noState("merge of the last run of " + many, () -> x.merge(last));
             if (many > 1) {
@@ -517,11 +529,10 @@ public final class ActionsTest {
 
     private static void promise16TooMuch() {
         document.says(16, ", or there would be more than 48 writes");
-        RangeGraves x = cutting(23, true);
-        x.flush();
+        RangeGraves x = Check.cuttingRuns(23);
         Check.same("merge to 48 writes", x.merge(0), 47);
         Check.same("about 4", x.about(4), 48);
-        RangeGraves y = cutting(23, true);
+        RangeGraves y = Check.cutting(23, true);
         y.put(98, 1);
         y.flush();
         String before = Check.everything(y);
@@ -531,11 +542,31 @@ public final class ActionsTest {
         Check.same("the other merge", y.merge(1), 1);
         Check.same("and then all", y.merge(0), 2);
         // A write in memory counts, too.
-        RangeGraves z = cutting(23, true);
-        z.flush();
+        RangeGraves z = Check.cuttingRuns(23);
         z.put(98, 1);
         Check.noState("merge to 49 writes, one of them in memory", () -> z.merge(0));
         promise16UpToTheLimit();
+        promise16OfAllWrites();
+    }
+
+    private static void promise16OfAllWrites() {
+        for (int entries = 23; entries <= 26; entries++) {
+            RangeGraves x = Check.eyed(entries);
+            x.flush();
+            x.bury(0, 99);
+            Check.same("flush", x.flush(), 1);
+            if (entries > 24) {
+                Check.noState("merge to " + 2 * entries, () -> x.merge(0));
+            } else {
+                Check.same("merge of all", x.merge(0), 2 * entries);
+            }
+        }
+        RangeGraves y = Check.eyed(24);
+        y.flush();
+        y.bury(0, 99);
+        y.put(1, 1);
+        y.flush();
+        Check.noState("merge to 49 writes", () -> y.merge(0));
     }
 
     /** The older one of the two runs has more writes than the run behind both. */

@@ -4,6 +4,9 @@ final class Check {
         long answer();
     }
 
+    /** A history that makes five runs, of a key each; its first 1 + 7 * n signs make n of them. */
+    static final String FIVE_RUNS = "Gp01001fp02001fp03001fp04001fp05001f";
+
     private static int looked = 0;
     private static int wrong = 0;
     private static String held = "";
@@ -24,7 +27,8 @@ final class Check {
         looked++;
         if (!got.equals(due)) {
             wrong++;
-            System.out.println((held.isEmpty() ? "" : "[" + held + "] ") + what + " answered " + got + ", due is " + due);
+            String sentence = held.isEmpty() ? "" : "[" + held + "] ";
+            System.out.println(sentence + what + " answered " + got + ", due is " + due);
         }
     }
 
@@ -62,6 +66,32 @@ final class Check {
         RangeGraves x = new RangeGraves();
         type(x, text);
         x.load();
+        return x;
+    }
+
+    /** Key 0 in the oldest run, then a grave from 1 to 99, in memory or a run, and graves that will cut it. */
+    static RangeGraves cutting(int graves, boolean runBetween) {
+        RangeGraves x = loaded(runBetween ? "Gp00001fx0199f" : "Gp00001fx0199");
+        for (int i = 0; i < graves; i++) {
+            x.bury(3 + 2 * i, 3 + 2 * i);
+        }
+        return x;
+    }
+
+    /** The same, the cutting graves in a run ahead of that of the grave: merge 0 cuts it. */
+    static RangeGraves cuttingRuns(int graves) {
+        RangeGraves x = cutting(graves, true);
+        x.flush();
+        return x;
+    }
+
+    /** Entries that an eye sees, each two keys behind the other: a grave over all becomes as many. */
+    static RangeGraves eyed(int entries) {
+        RangeGraves x = new RangeGraves();
+        for (int i = 0; i < entries; i++) {
+            x.put(2 * i, 1);
+        }
+        x.open();
         return x;
     }
 

@@ -37,9 +37,9 @@ public final class CleaningTest {
     }
 
     private static void partedUpToTheEye() {
-        document.says(CLEANING, "Two writes, of which the second one is newer, are parted if the number of an open eye is "
-                + "not less than that of the first one, and less than that of the second one. Some writes are "
-                + "cleaned so:");
+        document.says(CLEANING, "Two writes, of which the second one is newer, are parted if the number of an "
+                + "open eye is not less than that of the first one, and less than that of the second one. "
+                + "Some writes are cleaned so:");
         // The eye's number is less than that of both, that of the first one, between, that of the second one.
         makes("Gop10005p10006f", " | 2:10=6 eyes 0 latest 2 fewer 1");
         makes("Gp20001op10005p10006f", " | 1:20=1 3:10=6 eyes 1 latest 3 fewer 1");
@@ -64,8 +64,8 @@ public final class CleaningTest {
     }
 
     private static void entriesAreDropped() {
-        document.says(CLEANING, "1. Each entry is dropped if there is a newer one among these writes, entry or grave, that "
-                + "concerns its key, and from which it is not parted.");
+        document.says(CLEANING, "1. Each entry is dropped if there is a newer one among these writes, entry "
+                + "or grave, that concerns its key, and from which it is not parted.");
         makes("Gp10005p10006f", " | 2:10=6 latest 2 fewer 1");
         makes("Gp10005p10006p10007p11001f", " | 3:10=7 4:11=1 latest 4 fewer 2");
         makes("Gp10005x1010f", " latest 2 fewer 2");
@@ -100,8 +100,8 @@ public final class CleaningTest {
     }
 
     private static void gravesAreCut() {
-        document.says(CLEANING, "2. Each grave is for a key no longer if there is a newer grave among these writes that "
-                + "concerns this key, and from which it is not parted.");
+        document.says(CLEANING, "2. Each grave is for a key no longer if there is a newer grave among these "
+                + "writes that concerns this key, and from which it is not parted.");
         makes("Gp50001fx0030x1015f", " | 2:0-9 2:16-30 3:10-15 | 1:50=1 latest 3 fewer -1");
         makes("Gp50001fx0030x0010f", " | 2:11-30 3:0-10 | 1:50=1 latest 3 fewer 0");
         makes("Gp50001fx0030x2099f", " | 2:0-19 3:20-99 | 1:50=1 latest 3 fewer 0");
@@ -145,8 +145,9 @@ public final class CleaningTest {
     }
 
     private static void gravesWithoutOlderRunGo() {
-        document.says(CLEANING, "3. If there is no older run than these writes, each grave that is left is for a key no "
-                + "longer, too, if no entry that was not dropped in 1 is older than it and concerns this key.");
+        document.says(CLEANING, "3. If there is no older run than these writes, each grave that is left is "
+                + "for a key no longer, too, if no entry that was not dropped in 1 is older than it and "
+                + "concerns this key.");
         makes("Gx0099f", " latest 1 fewer 1");
         makes("Gp10001fx0030fx4050f", " | 3:40-50 | 2:0-30 | 1:10=1 latest 3 fewer 0");
         // There is a run older than these two: the graves stay, though it has none of their keys.
@@ -180,11 +181,16 @@ public final class CleaningTest {
         makes("Gp10001p20002ox1019f", " | 1:10=1 2:20=2 3:10-10 eyes 2 latest 3 fewer 0");
         makes("Gp00001p99002ox0099f", " | 1:0=1 2:99=2 3:0-0 3:99-99 eyes 2 latest 3 fewer -1");
         makes("Gp10001ox0909x1111f", " | 1:10=1 eyes 1 latest 3 fewer 2");
+        makes("Gp70001p80002ox6090f", " | 1:70=1 2:80=2 3:70-70 3:80-80 eyes 2 latest 3 fewer -1");
+        makes("Gp70001p80002ox6075f", " | 1:70=1 2:80=2 3:70-70 eyes 2 latest 3 fewer 0");
+        makes("Gp10001p63001p64001ox0099f", " | 1:10=1 2:63=1 3:64=1 4:10-10 4:63-64 eyes 3 latest 4 fewer -1");
+        makes("Gp70001ox6090x7070f", " | 1:70=1 3:70-70 eyes 1 latest 3 fewer 1");
+        makes("Gp20001ox0040x2020f", " | 1:20=1 3:20-20 eyes 1 latest 3 fewer 1");
     }
 
     private static void rowsOfKeys() {
-        document.says(CLEANING, "What is left of a grave is as many graves as it has rows of keys one behind the other, all "
-                + "with its number;");
+        document.says(CLEANING, "What is left of a grave is as many graves as it has rows of keys one behind "
+                + "the other, all with its number;");
         makes("Gp01001fx5080x6364f", " | 2:50-62 2:65-80 3:63-64 | 1:1=1 latest 3 fewer -1");
         makes("Gp01001fx5080x6363f", " | 2:50-62 2:64-80 3:63-63 | 1:1=1 latest 3 fewer -1");
         makes("Gp01001fx5080x6464f", " | 2:50-63 2:65-80 3:64-64 | 1:1=1 latest 3 fewer -1");
@@ -197,7 +203,8 @@ public final class CleaningTest {
     }
 
     private static void piecesAreCutAgain() {
-        document.says(CLEANING, "What is left of a grave is as many graves as it has rows of keys one behind the other");
+        document.says(CLEANING, "What is left of a grave is as many graves as it has rows of keys one behind "
+                + "the other");
         makes("Gp50001fx0030x1015fx0203fm0",
                 " | 2:0-1 2:4-9 2:16-30 3:10-15 4:2-3 | 1:50=1 latest 4 fewer -2");
         makes("Gp50001fx0030x1015fx0020fm0", " | 2:21-30 4:0-20 | 1:50=1 latest 4 fewer 1");
@@ -215,7 +222,8 @@ public final class CleaningTest {
     }
 
     private static void orderOfWrites() {
-        document.says(CLEANING, "The writes are then in the order of their numbers, those with one number by their keys.");
+        document.says(CLEANING, "The writes are then in the order of their numbers, those with one number by "
+                + "their keys.");
         makes("Gp50001fp90001x6080p10002x7070x6565p60003f",
                 " | 2:90=1 3:60-64 3:66-69 3:71-80 4:10=2 5:70-70 6:65-65 7:60=3 | 1:50=1 latest 7 fewer -2");
         makes("Gp50001fp90001x6080fx7070p10002fm0",
@@ -238,9 +246,9 @@ public final class CleaningTest {
     }
 
     private static void merging() {
-        document.says(CLEANING, "Merging two runs, one behind the other, makes the writes of both, cleaned, one run in "
-                + "their place");
-        String five = "Gp01001fp02001fp03001fp04001fp05001f";
+        document.says(CLEANING, "Merging two runs, one behind the other, makes the writes of both, cleaned, "
+                + "one run in their place");
+        String five = Check.FIVE_RUNS;
         makes(five + "m0", " | 4:4=1 5:5=1 | 3:3=1 | 2:2=1 | 1:1=1 latest 5 fewer 0");
         makes(five + "m1", " | 5:5=1 | 3:3=1 4:4=1 | 2:2=1 | 1:1=1 latest 5 fewer 0");
         makes(five + "m2", " | 5:5=1 | 4:4=1 | 2:2=1 3:3=1 | 1:1=1 latest 5 fewer 0");

@@ -54,19 +54,8 @@ public final class ExceptionsTest {
     }
 
     private static RangeGraves fiveRuns() {
-        RangeGraves x = Check.loaded("Gp01001fp02001fp03001fp04001fp05001f");
+        RangeGraves x = Check.loaded(Check.FIVE_RUNS);
         x.put(6, 1);
-        return x;
-    }
-
-    private static RangeGraves cutting(boolean runBetween) {
-        RangeGraves x = Check.loaded(runBetween ? "Gp00001fx0199f" : "Gp00001fx0199");
-        for (int i = 0; i < 24; i++) {
-            x.bury(3 + 2 * i, 3 + 2 * i);
-        }
-        if (runBetween) {
-            x.flush();
-        }
         return x;
     }
 
@@ -79,8 +68,8 @@ public final class ExceptionsTest {
     // ---- which exceptions
 
     private static void indexOutOfBounds() {
-        document.says(EXCEPTIONS, "IndexOutOfBoundsException means that a key, a run or an eye does not exist, or that a save "
-                + "slot is not 0 or 1.");
+        document.says(EXCEPTIONS, "IndexOutOfBoundsException means that a key, a run or an eye does not "
+                + "exist, or that a save slot is not 0 or 1.");
         for (int k : new int[] {-1, 100, FAR[0], FAR[1]}) {
             Check.noPlace("a key", () -> busy().get(k, NONE));
             Check.noPlace("a key", () -> busy().put(k, 1));
@@ -126,14 +115,15 @@ public final class ExceptionsTest {
         Check.noState("bury", () -> full().bury(1, 1));
         Check.noState("open", () -> Check.loaded("Goo").open());
         Check.noState("flush", () -> fiveRuns().flush());
-        Check.noState("merge", () -> cutting(true).merge(0));
+        Check.noState("merge", () -> Check.cuttingRuns(24).merge(0));
         Check.noState("undo", () -> new RangeGraves().undo());
-        Check.noState("saves", () -> cutting(true).saves(0));
+        Check.noState("saves", () -> Check.cuttingRuns(24).saves(0));
         Check.noState("restore", () -> busy().restore(0));
     }
 
     private static void theOneNamedFirst() {
-        document.says(EXCEPTIONS, "If several exceptions apply to a call, the one that its description names first is thrown.");
+        document.says(EXCEPTIONS, "If several exceptions apply to a call, the one that its description names "
+                + "first is thrown.");
         Check.noArgument("append of no sign to a full text", () -> fullText().append(-1));
         Check.noPlace("run of no number of no run", () -> busy().run(2, 5));
         Check.noPlace("write of no write of no run", () -> busy().write(2, -1, 0));
@@ -199,16 +189,17 @@ public final class ExceptionsTest {
         changesNothing("open", () -> Check.loaded("Gp10001oo"), x -> x.open());
         changesNothing("flush of no writes", () -> Check.loaded("Gp10001f"), x -> x.flush());
         changesNothing("flush to a sixth run", ExceptionsTest::fiveRuns, x -> x.flush());
-        changesNothing("flush that is too much", () -> cutting(false), x -> x.flush());
-        changesNothing("merge that is too much", () -> cutting(true), x -> x.merge(0));
-        changesNothing("saves of what is too much", () -> cutting(true), x -> x.saves(0));
+        changesNothing("flush that is too much", () -> Check.cutting(24, false), x -> x.flush());
+        changesNothing("merge that is too much", () -> Check.cuttingRuns(24), x -> x.merge(0));
+        changesNothing("saves of what is too much", () -> Check.cuttingRuns(24), x -> x.saves(0));
         changesNothing("undo", () -> Check.loaded("Gp10001f"), x -> x.undo());
     }
 
     // ---- the constant, and what the interface says ahead of the calls
 
     private static void theConstant() {
-        document.says(EXCEPTIONS, "The constants: `NONE = -1`: There is no such result; as a run, memory; as an eye, now.");
+        document.says(EXCEPTIONS, "The constants: `NONE = -1`: There is no such result; as a run, memory; as "
+                + "an eye, now.");
         Check.same("NONE", NONE, -1);
         RangeGraves x = busy();
         Check.same("no such result", x.grave(10), -1);
@@ -232,8 +223,8 @@ public final class ExceptionsTest {
     }
 
     private static void textCallsAreNoActions() {
-        document.says(EXCEPTIONS, "Ahead of the calls `append`, `clearText`, `errorPosition`, `load` the interface says: ---- "
-                + "text.");
+        document.says(EXCEPTIONS, "Ahead of the calls `append`, `clearText`, `errorPosition`, `load` the "
+                + "interface says: ---- text.");
         RangeGraves x = busy();
         String before = Check.everything(x);
         x.append('0');
@@ -247,8 +238,8 @@ public final class ExceptionsTest {
     }
 
     private static void whatThereIsChangesNothing() {
-        document.says(EXCEPTIONS, "Ahead of the calls `about`, `get`, `run`, `write`, `eye` the interface says: ---- what there "
-                + "is.");
+        document.says(EXCEPTIONS, "Ahead of the calls `about`, `get`, `run`, `write`, `eye` the interface "
+                + "says: ---- what there is.");
         for (int what = 0; what <= 8; what++) {
             int number = what;
             answersAndChangesNothing("about " + number, x -> x.about(number));
@@ -260,8 +251,8 @@ public final class ExceptionsTest {
     }
 
     private static void actionsAreActions() {
-        document.says(EXCEPTIONS, "Ahead of the calls `put`, `bury`, `open`, `close`, `flush`, `merge`, `undo` the interface "
-                + "says: ---- actions.");
+        document.says(EXCEPTIONS, "Ahead of the calls `put`, `bury`, `open`, `close`, `flush`, `merge`, "
+                + "`undo` the interface says: ---- actions.");
         CallOf[] actions = {x -> x.put(1, 1), x -> x.bury(1, 1), x -> x.open(), x -> x.close(0), x -> x.flush(),
             x -> x.merge(0)};
         for (CallOf action : actions) {
@@ -274,9 +265,9 @@ public final class ExceptionsTest {
     }
 
     private static void lookingChangesNothing() {
-        document.says(EXCEPTIONS, "Ahead of the calls `looks`, `next`, `count`, `hidden`, `grave`, `saves`, `best`, `fewest` the "
-                + "interface says: ---- looking, and what would be; these and all following methods up to the save "
-                + "slots change nothing.");
+        document.says(EXCEPTIONS, "Ahead of the calls `looks`, `next`, `count`, `hidden`, `grave`, `saves`, "
+                + "`best`, `fewest` the interface says: ---- looking, and what would be; these and all "
+                + "following methods up to the save slots change nothing.");
         answersAndChangesNothing("looks", x -> x.looks(10));
         answersAndChangesNothing("next", x -> x.next(0, 0));
         answersAndChangesNothing("count", x -> x.count(0, 99, NONE));
@@ -288,7 +279,8 @@ public final class ExceptionsTest {
     }
 
     private static void scriptsChangeNothing() {
-        document.says(EXCEPTIONS, "Ahead of the calls `runScript`, `simulate` the interface says: ---- scripts, simulations.");
+        document.says(EXCEPTIONS, "Ahead of the calls `runScript`, `simulate` the interface says: ---- "
+                + "scripts, simulations.");
         answersAndChangesNothing("runScript", x -> x.runScript(3, 300004000060000L));
         answersAndChangesNothing("runScript", x -> x.runScript(3, 101015000020099L));
         for (int seed = 0; seed < 10; seed++) {

@@ -2,7 +2,6 @@
 public final class LookingTest {
     private static final int NONE = RangeGraves.NONE;
     private static final int[] NO_KEYS = {-1, 100, Integer.MIN_VALUE, Integer.MAX_VALUE};
-    private static final String FIVE_RUNS = "Gp01001fp02001fp03001fp04001fp05001f";
 
     private static Document document;
 
@@ -83,8 +82,8 @@ public final class LookingTest {
     }
 
     private static void promise18MemoryFirst() {
-        document.says(18, "in memory first, if it has writes, then in one run after the other, up to the first one with a "
-                + "write that concerns the key. - `k`: key");
+        document.says(18, "in memory first, if it has writes, then in one run after the other, up to the "
+                + "first one with a write that concerns the key. - `k`: key");
         looks("Gp10001", 1, 1, 1);
         looks("Gp10001f", 1, 1, 1);
         looks("Gp10001fp20002f", 2, 2, 1, 2);
@@ -101,7 +100,7 @@ public final class LookingTest {
         looks("G", 0);
         looks("Gx1010f", 0);
         looks("Gx1010", 1);
-        RangeGraves x = Check.loaded(FIVE_RUNS);
+        RangeGraves x = Check.loaded(Check.FIVE_RUNS);
         for (int k = 1; k <= 5; k++) {
             Check.same("looks " + k, x.looks(k), 6 - k);
         }
@@ -146,7 +145,8 @@ public final class LookingTest {
     }
 
     private static void promise19Answer() {
-        document.says(19, "Returns the lowest key, not less than k, for which the view sees something; NONE if there is none.");
+        document.says(19, "Returns the lowest key, not less than k, for which the view sees something; NONE "
+                + "if there is none.");
         RangeGraves x = Check.loaded("Gp10001p98001ox9898");
         Check.same("next 10", x.next(10, NONE), 10);
         Check.same("next 11", x.next(11, NONE), NONE);
@@ -305,18 +305,6 @@ public final class LookingTest {
 
     // ---- promise 23: saves
 
-    /** Key 0 in the oldest run, a grave from 1 to 99 in the next one, and graves that cut it. */
-    private static RangeGraves cutting(int graves, boolean flush) {
-        RangeGraves x = Check.loaded("Gp00001fx0199f");
-        for (int i = 0; i < graves; i++) {
-            x.bury(3 + 2 * i, 3 + 2 * i);
-        }
-        if (flush) {
-            x.flush();
-        }
-        return x;
-    }
-
     private static void promise23() {
         document.says(23, "Tells what a merge would save. - `i`: run");
         RangeGraves x = Check.loaded("Gp10001fp10002fp20003fx1010f");
@@ -332,7 +320,7 @@ public final class LookingTest {
     private static void promise23LessThanNothing() {
         document.says(23, "Returns how many writes would become fewer behind merge(i) (it may be less than 0).");
         for (int graves = 1; graves <= 23; graves++) {
-            RangeGraves x = cutting(graves, true);
+            RangeGraves x = Check.cuttingRuns(graves);
             Check.same("saves", x.saves(0), -graves);
             int before = x.about(4);
             x.merge(0);
@@ -344,7 +332,7 @@ public final class LookingTest {
     private static void promise23NoSuchRun() {
         document.says(23, "Throws `IndexOutOfBoundsException` if there is no such run");
         for (int many = 0; many <= 5; many++) {
-            RangeGraves x = Check.loaded(FIVE_RUNS.substring(0, 1 + 7 * many));
+            RangeGraves x = Check.loaded(Check.FIVE_RUNS.substring(0, 1 + 7 * many));
             for (int i : new int[] {NONE, -2, many, 5, Integer.MIN_VALUE, Integer.MAX_VALUE}) {
                 Check.noPlace("saves " + i + " of " + many, () -> x.saves(i));
             }
@@ -354,15 +342,15 @@ public final class LookingTest {
     private static void promise23WhereMergeThrows() {
         document.says(23, "Throws `IllegalStateException` if merge(i) would throw it");
         for (int many = 1; many <= 5; many++) {
-            RangeGraves x = Check.loaded(FIVE_RUNS.substring(0, 1 + 7 * many));
+            RangeGraves x = Check.loaded(Check.FIVE_RUNS.substring(0, 1 + 7 * many));
             int last = many - 1;
             Check.noState("saves of the last run of " + many, () -> x.saves(last));
         }
-        RangeGraves x = cutting(23, true);
+        RangeGraves x = Check.cuttingRuns(23);
         Check.same("saves up to 48 writes", x.saves(0), -23);
         x.put(98, 1);
         Check.noState("saves up to 49 writes", () -> x.saves(0));
-        Check.noState("saves up to 50 writes", () -> cutting(24, true).saves(0));
+        Check.noState("saves up to 50 writes", () -> Check.cuttingRuns(24).saves(0));
     }
 
     // ---- promise 24: best
@@ -399,10 +387,19 @@ public final class LookingTest {
         best("Gp10001p10002", NONE);
         best("Gp10001f", NONE);
         best("Gp10001fp10002", NONE);
-        Check.same("saves of less than nothing", cutting(3, true).best(), 1);
-        Check.same("a merge that is too much", cutting(24, true).best(), 1);
+        Check.same("saves of less than nothing", Check.cuttingRuns(3).best(), 1);
+        Check.same("a merge that is too much", Check.cuttingRuns(24).best(), 1);
         best("Gx0199fp00001", NONE);
         best("Gp00001p98001ox0199f", NONE);
+        // The only merge would be too much: the grave becomes one for each entry that the eye sees.
+        RangeGraves only = Check.eyed(25);
+        only.flush();
+        only.bury(0, 99);
+        only.flush();
+        Check.noState("saves of the only merge", () -> only.saves(0));
+        Check.same("best where the only merge is too much", only.best(), NONE);
+        only.close(0);
+        Check.same("best where it is possible", only.best(), 0);
         // The only merge cuts a grave that an eye's entries keep, and saves less than nothing.
         RangeGraves x = Check.loaded("Gp10001p11001p12001p13001p14001ofx1014fx1111x1313f");
         x.merge(1);
@@ -441,10 +438,10 @@ public final class LookingTest {
         fewest("Gp10001f", 1);
         fewest("Gp10001p10002", 1);
         fewest("Gp10001x0099", 0);
-        fewest(FIVE_RUNS, 5);
-        fewest(FIVE_RUNS + "p06001", 6);
-        fewest(FIVE_RUNS + "x0104", 1);
-        fewest(FIVE_RUNS + "x0005", 0);
+        fewest(Check.FIVE_RUNS, 5);
+        fewest(Check.FIVE_RUNS + "p06001", 6);
+        fewest(Check.FIVE_RUNS + "x0104", 1);
+        fewest(Check.FIVE_RUNS + "x0005", 0);
         fewest("Gp01001fp01002fp01003fp01004fp01005fp01006", 1);
     }
 
@@ -464,17 +461,17 @@ public final class LookingTest {
 
     private static void promise25NothingIsTooMuch() {
         document.says(25, "(nothing being too much on the way).");
-        RangeGraves x = Check.loaded("Gp00001fx0199");
-        for (int i = 0; i < 24; i++) {
-            x.bury(3 + 2 * i, 3 + 2 * i);
-        }
+        RangeGraves x = Check.cutting(24, false);
         Check.noState("flush is too much", () -> x.flush());
         Check.same("on the way nothing is", x.fewest(), 1);
-        RangeGraves y = cutting(24, true);
+        RangeGraves y = Check.cuttingRuns(24);
         Check.noState("merge is too much", () -> y.merge(0));
         Check.same("on this way, too", y.fewest(), 1);
-        RangeGraves z = cutting(45, false);
-        Check.same("a merge to 93 writes", z.fewest(), 1);
+        for (int graves = 22; graves <= 45; graves++) {
+            RangeGraves z = Check.cutting(graves, true);
+            z.put(98, 1);
+            Check.same("a merge to " + (2 * graves + 3) + " writes", z.fewest(), 2);
+        }
         RangeGraves most = new RangeGraves();
         most.bury(0, 99);
         for (int i = 0; i < 47; i++) {

@@ -2,7 +2,7 @@
 public final class ScriptsTest {
     private static final int NONE = RangeGraves.NONE;
     private static final String HISTORY = "Gp10005p20500fp30007fo";
-    private static final String SIX = "Gp01001fp02001fp03001fp04001fp05001fp06001";
+    private static final String SIX = Check.FIVE_RUNS + "p06001";
     private static final long FACTOR = 6364136223846793005L;
     private static final long SUMMAND = 1442695040888963407L;
 
@@ -76,8 +76,8 @@ public final class ScriptsTest {
     }
 
     private static void promise26Order() {
-        document.says(26, "A script has 1 to 3 commands; each is a group of five decimal digits d1 to d5, and the first command "
-                + "is the highest group of the number");
+        document.says(26, "A script has 1 to 3 commands; each is a group of five decimal digits d1 to d5, and "
+                + "the first command is the highest group of the number");
         script(HISTORY, 3, 110112101071000L, NONE);
         script(HISTORY, 3, 710057100671005L, 1);
         script(HISTORY, 3, 710067100671006L, 0);
@@ -241,16 +241,10 @@ public final class ScriptsTest {
         fails("Gp10005f", 40000);
         fails("Goo", 50000);
         fails("G", 60000);
-        RangeGraves y = Check.loaded("Gp00001fx0199");
-        for (int i = 0; i < 23; i++) {
-            y.bury(3 + 2 * i, 3 + 2 * i);
-        }
+        RangeGraves y = Check.cutting(23, false);
         Check.same("flush to 48 writes", y.runScript(2, 3000080048L), NONE);
         Check.same("flush to 49 writes", y.runScript(2, 1980130000L), 1);
-        RangeGraves z = Check.loaded("Gp00001fx0199f");
-        for (int i = 0; i < 23; i++) {
-            z.bury(3 + 2 * i, 3 + 2 * i);
-        }
+        RangeGraves z = Check.cutting(23, true);
         Check.same("merge to 48 writes", z.runScript(3, 300004000080048L), NONE);
         Check.same("merge to 49 writes", z.runScript(3, 300001980140000L), 2);
     }
@@ -393,8 +387,9 @@ public final class ScriptsTest {
     }
 
     private static void promise27Overflow() {
-        document.says(27, "A long x starts as the seed. Each turn first replaces x by x * 6364136223846793005L + "
-                + "1442695040888963407L (with long overflow), and r = (int) (x >>> 33) is computed. q is r / 8.");
+        document.says(27, "A long x starts as the seed. Each turn first replaces x by x * "
+                + "6364136223846793005L + 1442695040888963407L (with long overflow), and r = (int) (x >>> 33) "
+                + "is computed. q is r / 8.");
         // x = 1442695040888963407: r = 167951807 is 7 of 8, and an eye sees nothing.
         Check.same("seed 0", Check.loaded("G").simulate(0, 1), 0);
         Check.same("seed 0, an eye is closed", Check.loaded("Gp10001oop10002f").simulate(0, 1), 1002);
@@ -547,8 +542,8 @@ public final class ScriptsTest {
     }
 
     private static void promise27Answer() {
-        document.says(27, "Returns 1000 * (the keys for which something is seen at the end) + (the writes in memory and in all "
-                + "runs at the end).");
+        document.says(27, "Returns 1000 * (the keys for which something is seen at the end) + (the writes in "
+                + "memory and in all runs at the end).");
         turn("G", 7, 0, 0, 0);
         turn("Gp10001p10002p11001", 7, 0, 2, 3);
         turn("Gp10001p10002p11001fx1010", 7, 0, 1, 3);

@@ -210,8 +210,8 @@ public final class TextTest {
     }
 
     private static void firstWrongSign() {
-        document.says(TEXT, "The error position is the index of the first character that these rules do not allow at its "
-                + "place;");
+        document.says(TEXT, "The error position is the index of the first character that these rules do not "
+                + "allow at its place;");
         for (int c = 0; c < 256; c++) {
             boolean command = "pxfmoc".indexOf(c) >= 0;
             int due = !command ? 1 : c == 'f' || c == 'o' ? NONE : 2;

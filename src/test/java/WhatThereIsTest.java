@@ -70,8 +70,8 @@ public final class WhatThereIsTest {
     }
 
     private static void promise06Writes() {
-        document.says(6, "1: the writes in memory; 2: the runs; 3: the open eyes; 4: the writes in memory and in all runs; "
-                + "5: the entries among them;");
+        document.says(6, "1: the writes in memory; 2: the runs; 3: the open eyes; 4: the writes in memory and "
+                + "in all runs; 5: the entries among them;");
         abouts("Gx0099", 1, 1, 0, 0, 1, 0);
         abouts("Gx0099f", 1, 0, 0, 0, 0, 0);
         abouts("Gp00001p99999oo", 2, 2, 0, 2, 2, 2);
@@ -90,7 +90,8 @@ public final class WhatThereIsTest {
     }
 
     private static void promise06SeenNow() {
-        document.says(6, "6: the keys for which something is seen now; 7: the sum of the values that are seen now;");
+        document.says(6, "6: the keys for which something is seen now; 7: the sum of the values that are seen "
+                + "now;");
         int[][] due = {{0, 0}, {1, 5}, {2, 11}, {1, 6}, {0, 0}, {2, 1000}};
         String[] histories = {"G", "Gp10005", "Gp10005p11006", "Gp10005p10006", "Gp10005x0099", "Gp00001p99999"};
         for (int i = 0; i < histories.length; i++) {
@@ -98,8 +99,13 @@ public final class WhatThereIsTest {
             Check.same(histories[i] + " about 6", x.about(6), due[i][0]);
             Check.same(histories[i] + " about 7", x.about(7), due[i][1]);
         }
-        // What an eye still sees does not count.
+        // What an eye still sees does not count, nor what was asked before.
         abouts("Gp10005p11006ox1010p11007", 4, 4, 0, 1, 4, 3, 1, 7);
+        RangeGraves asked = Check.loaded("Gp10005p11006ox1010p11007");
+        Check.same("next of the eye", asked.next(0, 0), 10);
+        Check.same("about 7 behind it", asked.about(7), 7);
+        Check.same("next of the eye", asked.next(0, 0), 10);
+        Check.same("about 6 behind it", asked.about(6), 1);
         RangeGraves all = new RangeGraves();
         for (int i = 0; i < 48; i++) {
             all.put(2 * i, 999);
@@ -238,7 +244,8 @@ public final class WhatThereIsTest {
     private static void promise08() {
         document.says(8, "Returns a number of a run, or of memory.");
         document.says(8, "Returns that number.");
-        document.says(8, "- `what`: 0: its entries; 1: its graves; 2: its lowest number of a write; 3: the highest one");
+        document.says(8, "- `what`: 0: its entries; 1: its graves; 2: its lowest number of a write; 3: the "
+                + "highest one");
         RangeGraves x = Check.loaded(HISTORY);
         runs(x, NONE, 2, 1, 6, 8);
         runs(x, 0, 0, 2, 4, 5);
@@ -280,7 +287,7 @@ public final class WhatThereIsTest {
     private static void promise08NoSuchRun() {
         document.says(8, "Throws `IndexOutOfBoundsException` if i is neither a run nor NONE");
         for (int many = 0; many <= 5; many++) {
-            RangeGraves x = Check.loaded("Gp01001fp02001fp03001fp04001fp05001f".substring(0, 1 + 7 * many));
+            RangeGraves x = Check.loaded(Check.FIVE_RUNS.substring(0, 1 + 7 * many));
             for (int i : new int[] {-2, many, 5, FAR[0], FAR[1]}) {
                 Check.noPlace("run " + i + " of " + many, () -> x.run(i, 0));
                 Check.noPlace("run " + i + " of " + many + ", and no number", () -> x.run(i, 9));
@@ -346,8 +353,8 @@ public final class WhatThereIsTest {
     }
 
     private static void promise09Numbers() {
-        document.says(9, "- `what`: 0: its number; 1: its key, for a grave the first one; 2: the same for an entry, for a "
-                + "grave the last key; 3: its value, 0 for a grave");
+        document.says(9, "- `what`: 0: its number; 1: its key, for a grave the first one; 2: the same for an "
+                + "entry, for a grave the last key; 3: its value, 0 for a grave");
         RangeGraves x = Check.loaded("Gp00001p99999x0000x9999x0099x1220");
         writes(x, NONE, 0, 1, 0, 0, 1);
         writes(x, NONE, 1, 2, 99, 99, 999);
@@ -371,7 +378,7 @@ public final class WhatThereIsTest {
     private static void promise09NoSuchRun() {
         document.says(9, "Throws `IndexOutOfBoundsException` if i is neither a run nor NONE");
         for (int many = 0; many <= 5; many++) {
-            RangeGraves x = Check.loaded("Gp01001fp02001fp03001fp04001fp05001f".substring(0, 1 + 7 * many));
+            RangeGraves x = Check.loaded(Check.FIVE_RUNS.substring(0, 1 + 7 * many));
             for (int i : new int[] {-2, many, 5, FAR[0], FAR[1]}) {
                 Check.noPlace("write " + i + " of " + many, () -> x.write(i, 0, 0));
                 Check.noPlace("write " + i + " of " + many + ", and no write", () -> x.write(i, -1, 0));

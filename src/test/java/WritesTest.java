@@ -26,8 +26,8 @@ public final class WritesTest {
     }
 
     private static void whatItTells() {
-        document.says("Terms", "It tells what is seen by whom, in how many places one has to look, what is hidden from "
-                + "all, what a merge would save and which one saves most. Changes can be undone.");
+        document.says("Terms", "It tells what is seen by whom, in how many places one has to look, what is "
+                + "hidden from all, what a merge would save and which one saves most. Changes can be undone.");
         RangeGraves x = Check.loaded("Gp10001p20002fop10003f");
         x.bury(20, 20);
         Check.same("what is seen now", x.get(10, NONE), 3);
@@ -174,8 +174,8 @@ public final class WritesTest {
     }
 
     private static void fiveRuns() {
-        document.says(WRITES, "There are at most 5 runs, numbered from 0, the newest one first; all writes of a run are "
-                + "older than those of runs ahead of it, and of memory.");
+        document.says(WRITES, "There are at most 5 runs, numbered from 0, the newest one first; all writes of "
+                + "a run are older than those of runs ahead of it, and of memory.");
         RangeGraves x = new RangeGraves();
         for (int i = 1; i <= 5; i++) {
             x.put(i, i);
@@ -220,8 +220,8 @@ public final class WritesTest {
     }
 
     private static void twoEyes() {
-        document.says(WRITES, "At most 2 eyes are open, numbered from 0 in the order in which they were opened; an eye "
-                + "has the number of the latest write when it was opened (0 if there was none).");
+        document.says(WRITES, "At most 2 eyes are open, numbered from 0 in the order in which they were "
+                + "opened; an eye has the number of the latest write when it was opened (0 if there was none).");
         RangeGraves x = new RangeGraves();
         Check.same("open", x.open(), 0);
         x.put(1, 1);
@@ -242,9 +242,9 @@ public final class WritesTest {
     }
 
     private static void views() {
-        document.says(WRITES, "A view is an eye, or now. A view sees for a key the newest write that concerns it, for an "
-                + "eye of those whose number is not greater than that of the eye: if that is an entry, its value; if "
-                + "it is a grave, or there is none, it sees nothing.");
+        document.says(WRITES, "A view is an eye, or now. A view sees for a key the newest write that concerns "
+                + "it, for an eye of those whose number is not greater than that of the eye: if that is an "
+                + "entry, its value; if it is a grave, or there is none, it sees nothing.");
         RangeGraves x = Check.loaded("Gp10001p11001op10002x1111op10003p11003x1010");
         int[][] due = {{1, 1}, {2, NONE}, {NONE, 3}};
         for (int i = 0; i < 2; i++) {
