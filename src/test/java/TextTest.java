@@ -186,6 +186,29 @@ public final class TextTest {
         // A sixth run, and the merge of the last one.
         loads("Gp01001fp02001fp03001fp04001fp05001fp06001fm4m3", 2,
                 "6:6=1 | 5:5=1 | 4:4=1 | 3:3=1 | 1:1=1 2:2=1 latest 6 fewer 0");
+        commandsLeftOutForTooMuch();
+    }
+
+    /** Two eyes see so many entries; of each grave over all of them as many graves are left. */
+    private static String eyed(int entries) {
+        StringBuilder text = new StringBuilder("G");
+        for (int i = 0; i < entries; i++) {
+            text.append('p').append(i / 5).append(i * 2 % 10).append("001");
+        }
+        return text.append("ox0099ox0099").toString();
+    }
+
+    private static void commandsLeftOutForTooMuch() {
+        String[] texts = {eyed(16) + "f", eyed(16) + "fp99001", eyed(16) + "fx9999", eyed(16) + "p99001f",
+            eyed(17) + "f"};
+        int[] leftOut = {0, 1, 1, 1, 1};
+        int[] writes = {48, 48, 48, 19, 19};
+        for (int i = 0; i < texts.length; i++) {
+            RangeGraves x = new RangeGraves();
+            Check.type(x, texts[i]);
+            Check.same("load of " + texts[i], x.load(), leftOut[i]);
+            Check.same("writes of " + texts[i], x.about(4), writes[i]);
+        }
     }
 
     private static void noBlanks() {
