@@ -50,13 +50,10 @@ public final class ActionsTest {
 
     // ---- terms: actions and undo
 
-    private static void whatIsTheState() {
-        document.says(ACTIONS, "The methods in the section \"actions\" change the state, which consists of "
-                + "everything but the text and the save slots.");
+    /** Two runs, memory and two eyes, behind so many actions, each of which changes the state. */
+    private static RangeGraves changed(int actions) {
         RangeGraves x = Check.loaded("Gp10001fp10002fp20003x0030op20004o");
-        String[] before = new String[8];
-        for (int i = 0; i < before.length; i++) {
-            before[i] = Check.everything(x);
+        for (int i = 0; i < actions; i++) {
             switch (i) {
                 case 0: x.close(0); break;
                 case 1: x.bury(20, 20); break;
@@ -67,19 +64,29 @@ public final class ActionsTest {
                 case 6: x.close(1); break;
                 default: x.put(1, 1); break;
             }
-            Check.same(before[i] + " becomes different", before[i].equals(Check.everything(x)) ? 0 : 1, 1);
         }
+        return x;
+    }
+
+    private static void whatIsTheState() {
+        document.says(ACTIONS, "The methods in the section \"actions\" change the state, which consists of "
+                + "everything but the text and the save slots.");
+        String[] behind = new String[9];
+        for (int i = 0; i < behind.length; i++) {
+            behind[i] = Check.everything(changed(i));
+            Check.same(behind[i] + " is different", i > 0 && behind[i].equals(behind[i - 1]) ? 0 : 1, 1);
+        }
+        RangeGraves x = changed(8);
         x.append('q');
         x.save(1);
-        String saved = Check.everything(x);
-        for (int i = before.length - 1; i >= 0; i--) {
+        for (int i = 7; i >= 0; i--) {
             Check.same("undo " + i, x.undo(), i);
-            Check.sameText("undo " + i, Check.everything(x), before[i]);
+            Check.sameText("undo " + i, Check.everything(x), behind[i]);
         }
         Check.noState("undo", () -> x.undo());
         Check.same("the text is not taken back", x.clearText(), 35);
         x.restore(1);
-        Check.sameText("nor is the slot", Check.everything(x), saved);
+        Check.sameText("nor is the slot", Check.everything(x), behind[8]);
         Check.noState("nor filled", () -> x.restore(0));
     }
 

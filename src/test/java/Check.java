@@ -4,6 +4,14 @@ final class Check {
         long answer();
     }
 
+    /** Makes the same object each time. */
+    interface Maker {
+        RangeGraves make();
+    }
+
+    /** How many calls an object is used for; what later ones answer is free. */
+    static final int MOST_CALLS = 512;
+
     /** A history that makes five runs, of a key each; its first 1 + 7 * n signs make n of them. */
     static final String FIVE_RUNS = "Gp01001fp02001fp03001fp04001fp05001f";
 
@@ -98,14 +106,12 @@ final class Check {
     /** Writes of a run, or of memory, as a text: number:key=value or number:first-last each. */
     static String writes(RangeGraves x, int place) {
         StringBuilder all = new StringBuilder();
-        for (int j = 0; x.write(place, j, 0) != RangeGraves.NONE; j++) {
-            all.append(j == 0 ? "" : " ").append(x.write(place, j, 0)).append(':');
-            all.append(x.write(place, j, 1));
-            if (x.write(place, j, 3) > 0) {
-                all.append('=').append(x.write(place, j, 3));
-            } else {
-                all.append('-').append(x.write(place, j, 2));
-            }
+        int number = x.write(place, 0, 0);
+        for (int j = 0; number != RangeGraves.NONE; j++) {
+            all.append(j == 0 ? "" : " ").append(number).append(':').append(x.write(place, j, 1));
+            int value = x.write(place, j, 3);
+            all.append(value > 0 ? '=' : '-').append(value > 0 ? value : x.write(place, j, 2));
+            number = x.write(place, j + 1, 0);
         }
         return all.toString();
     }
@@ -123,20 +129,31 @@ final class Check {
     }
 
     /**
-     * All that can be told of an object, with its remembered states, its save slots and its text. The
-     * object is used up by it.
+     * All that can be told of an object, with its remembered states, its save slots and its text: each
+     * part is told of an object of its own, as one is used for 512 calls at most.
      */
-    static String whole(RangeGraves x) {
-        StringBuilder all = new StringBuilder(everything(x)).append(" text ").append(x.errorPosition());
-        for (int i = 0; i < 14 && told(() -> x.undo()).length() < 3; i++) {
-            all.append("; undo ").append(everything(x));
+    static String whole(Maker maker) {
+        StringBuilder all = new StringBuilder(everything(maker.make()));
+        for (int back = 1; back <= 15; back++) {
+            all.append("; undo ").append(back).append(": ").append(undone(maker.make(), back));
         }
         for (int slot = 0; slot < 2; slot++) {
+            RangeGraves x = maker.make();
             int from = slot;
             all.append("; restore ").append(told(() -> x.restore(from))).append(everything(x));
         }
-        all.append("; load ").append(told(() -> x.load())).append(everything(x));
-        return all.append("; length ").append(x.clearText()).toString();
+        RangeGraves x = maker.make();
+        all.append("; text ").append(x.errorPosition()).append(" load ").append(told(() -> x.load()));
+        return all.append(everything(x)).append("; length ").append(x.clearText()).toString();
+    }
+
+    /** What the last one of so many undos answers, and everything behind it. */
+    private static String undone(RangeGraves x, int times) {
+        String last = "";
+        for (int i = 0; i < times; i++) {
+            last = told(() -> x.undo());
+        }
+        return last + " " + everything(x);
     }
 
     static void end(String name) {

@@ -29,10 +29,6 @@ public final class ExceptionsTest {
         long answer(RangeGraves x);
     }
 
-    private interface Maker {
-        RangeGraves make();
-    }
-
     /** Two runs, memory, an eye, four remembered states, a filled slot, and a text that is no history. */
     private static RangeGraves busy() {
         RangeGraves x = Check.loaded("Gp10001fp10002f");
@@ -145,12 +141,19 @@ public final class ExceptionsTest {
 
     // ---- what throws changes nothing
 
+    /** What an object is behind a call, whether the call answers or throws. */
+    private static RangeGraves behind(Check.Maker maker, CallOf call) {
+        RangeGraves x = maker.make();
+        Check.told(() -> call.answer(x));
+        return x;
+    }
+
     /** The call throws, and the object is then just as one of which it was not asked. */
-    private static void changesNothing(String what, Maker maker, CallOf call) {
+    private static void changesNothing(String what, Check.Maker maker, CallOf call) {
         RangeGraves x = maker.make();
         String told = Check.told(() -> call.answer(x));
         Check.same(what + " throws, told is " + told, told.endsWith("Exception") ? 1 : 0, 1);
-        Check.sameText("all behind " + what, Check.whole(x), Check.whole(maker.make()));
+        Check.sameText("all behind " + what, Check.whole(() -> behind(maker, call)), Check.whole(maker));
     }
 
     private static void throwingChangesNothing() {
@@ -219,7 +222,8 @@ public final class ExceptionsTest {
         RangeGraves x = busy();
         String told = Check.told(() -> call.answer(x));
         Check.same(what + " answers, told is " + told, told.endsWith("Exception") ? 0 : 1, 1);
-        Check.sameText("all behind " + what, Check.whole(x), Check.whole(busy()));
+        Check.sameText("all behind " + what, Check.whole(() -> behind(ExceptionsTest::busy, call)),
+                Check.whole(ExceptionsTest::busy));
     }
 
     private static void textCallsAreNoActions() {
@@ -250,16 +254,22 @@ public final class ExceptionsTest {
         answersAndChangesNothing("eye", x -> x.eye(0));
     }
 
+    private static RangeGraves takenBack(CallOf action) {
+        RangeGraves x = behind(ExceptionsTest::busy, action);
+        x.undo();
+        return x;
+    }
+
     private static void actionsAreActions() {
         document.says(EXCEPTIONS, "Ahead of the calls `put`, `bury`, `open`, `close`, `flush`, `merge`, "
                 + "`undo` the interface says: ---- actions.");
         CallOf[] actions = {x -> x.put(1, 1), x -> x.bury(1, 1), x -> x.open(), x -> x.close(0), x -> x.flush(),
             x -> x.merge(0)};
         for (CallOf action : actions) {
-            RangeGraves x = busy();
-            action.answer(x);
+            RangeGraves x = behind(ExceptionsTest::busy, action);
             Check.same("undo of the action", x.undo(), 4);
-            Check.sameText("it is taken back", Check.whole(x), Check.whole(busy()));
+            Check.sameText("it is taken back", Check.whole(() -> takenBack(action)),
+                    Check.whole(ExceptionsTest::busy));
         }
         Check.same("undo of the action before", busy().undo(), 3);
     }

@@ -2,20 +2,33 @@ import java.util.Random;
 
 /** Random runs of calls, of which each answer is compared with that of the Model (promises 1 to 29). */
 public final class RandomRunsTest {
-    private static final int RUNS = 1000;
-    private static final int CALLS = 500;
+    private static final int RUNS = 4000;
+    /** Calls that are left for looking at all, at the end of a run. */
+    private static final int LAST_LOOK = 230;
+
+    // Corners that are rare: a run of tests that meets none of them has looked too little.
+    private static int flushesTooMuch = 0;
+    private static int mergesTooMuch = 0;
+    private static int mergesThatCost = 0;
+    private static int sixRunsOnTheWay = 0;
 
     private final Random random;
     private final int keys;
+    private final int apart;
     private final int quietness;
+    private final int pause;
     private final RangeGraves x = new RangeGraves();
     private final Model m = new Model();
+    private int calls = 0;
 
     private RandomRunsTest(long seed) {
         random = new Random(seed);
         // Few keys make many writes for one key, many keys make graves that are cut.
         keys = new int[] {4, 10, 30, 100}[random.nextInt(4)];
+        // Keys that lie apart cut a wide grave into many.
+        apart = keys == 30 ? 1 + random.nextInt(3) : 1;
         quietness = new int[] {4, 8, 40}[random.nextInt(3)];
+        pause = new int[] {9, 18, 36}[random.nextInt(3)];
     }
 
     private int pick(int bound) {
@@ -27,7 +40,7 @@ public final class RandomRunsTest {
         if (pick(60) == 0) {
             return new int[] {-1, 100, Integer.MIN_VALUE, Integer.MAX_VALUE, 0, 99}[pick(6)];
         }
-        return keys == 10 ? 58 + pick(10) : pick(keys);
+        return keys == 10 ? 58 + pick(10) : pick(keys) * apart;
     }
 
     private int place(int low, int bound) {
@@ -102,13 +115,44 @@ public final class RandomRunsTest {
         }
     }
 
+    /** Compares two answers; the object's calls behind its 512th are not made. */
     private void same(String what, Check.Call got, Check.Call due) {
-        Check.sameText(what, Check.told(got), Check.told(due));
+        if (calls < Check.MOST_CALLS) {
+            calls++;
+            Check.sameText(what, Check.told(got), Check.told(due));
+        }
+    }
+
+    /** A row of keys to bury, by its last key. */
+    private int lastOf(int first) {
+        if (pick(10) == 0) {
+            return key();
+        }
+        if (apart > 1) {
+            return pick(4) == 0 ? 99 : first;
+        }
+        return Math.max(first, first + pick(pick(3) == 0 ? 60 : 6));
+    }
+
+    private void flush() {
+        boolean possible = m.about(1) > 0 && m.about(2) < 5;
+        int before = m.about(2);
+        same("flush", () -> x.flush(), () -> m.flush());
+        flushesTooMuch += possible && m.about(1) > 0 && m.about(2) == before ? 1 : 0;
+    }
+
+    private void merge(int i) {
+        if (i >= 0 && i + 1 < m.about(2)) {
+            String told = Check.told(() -> m.saves(i));
+            mergesTooMuch += told.equals("IllegalStateException") ? 1 : 0;
+            mergesThatCost += told.startsWith("-") ? 1 : 0;
+        }
+        same("merge " + i, () -> x.merge(i), () -> m.merge(i));
     }
 
     private void act() {
         int a = key();
-        int b = pick(10) == 0 ? key() : Math.max(a, a + pick(pick(3) == 0 ? 60 : 6));
+        int b = lastOf(a);
         int v = pick(60) == 0 ? new int[] {0, 1000, -5, 999}[pick(4)] : 1 + pick(pick(2) == 0 ? 99 : 999);
         int i = place(-1, 5);
         int e = place(-1, 2);
@@ -136,13 +180,13 @@ public final class RandomRunsTest {
                 break;
             case 11:
                 if (pick(quietness) < 4) {
-                    same("flush", () -> x.flush(), () -> m.flush());
+                    flush();
                 }
                 break;
             case 12:
             case 13:
                 if (pick(quietness) < 4) {
-                    same("merge " + i, () -> x.merge(i), () -> m.merge(i));
+                    merge(i);
                 }
                 break;
             default:
@@ -204,6 +248,7 @@ public final class RandomRunsTest {
         same("grave " + a, () -> x.grave(a), () -> m.grave(a));
         same("saves " + i, () -> x.saves(i), () -> m.saves(i));
         same("best", () -> x.best(), () -> m.best());
+        sixRunsOnTheWay += m.about(2) == 5 && m.about(1) > 0 ? 1 : 0;
         same("fewest", () -> x.fewest(), () -> m.fewest());
         same("runScript " + n + " " + script, () -> x.runScript(n, script), () -> m.runScript(n, script));
         if (pick(10) == 0) {
@@ -211,7 +256,7 @@ public final class RandomRunsTest {
         }
     }
 
-    /** Compares all that can be seen of the two states. */
+    /** Compares what can be seen of the two states, as far as the object's calls go. */
     private void lookAtAll() {
         for (int what = 0; what <= 8; what++) {
             int w = what;
@@ -219,41 +264,43 @@ public final class RandomRunsTest {
         }
         for (int place = -1; place < m.about(2); place++) {
             int i = place;
-            for (int what = 0; what <= 4; what++) {
-                int w = what;
-                same("run " + i + " " + w, () -> x.run(i, w), () -> m.run(i, w));
-            }
-            for (int at = 0; at < 4 * 48; at++) {
+            for (int at = 0; at < 4 * 48 && m.write(i, at / 4, 0) != Model.NONE; at++) {
                 int j = at / 4;
                 int w = at % 4;
                 same("write " + i + " " + j + " " + w, () -> x.write(i, j, w), () -> m.write(i, j, w));
             }
         }
-        for (int key = 0; key < 100; key++) {
-            for (int eye = -1; eye < m.about(3); eye++) {
-                int k = key;
-                int e = eye;
-                same("get " + k + " " + e, () -> x.get(k, e), () -> m.get(k, e));
-            }
+        int start = pick(100);
+        for (int at = 0; at < 300; at++) {
+            int k = (start + at / 3) % 100;
+            int e = at % 3 - 1;
+            same("get " + k + " " + e, () -> x.get(k, e), () -> m.get(k, e));
         }
     }
 
     private void go() {
-        for (int call = 0; call < CALLS; call++) {
+        for (int turn = 0; turn < Check.MOST_CALLS && calls < Check.MOST_CALLS - LAST_LOOK; turn++) {
             act();
-            if (call % 9 == 0) {
+            if (turn % pause == 0) {
                 look();
             }
-            if (call % 125 == 124) {
-                lookAtAll();
-            }
         }
+        lookAtAll();
+    }
+
+    private static void met(String what, int times) {
+        System.out.println(what + ": " + times);
+        Check.same(what + " were met", times > 0 ? 1 : 0, 1);
     }
 
     public static void main(String[] arguments) {
         for (int seed = 0; seed < RUNS; seed++) {
             new RandomRunsTest(seed).go();
         }
+        met("flushes that are too much", flushesTooMuch);
+        met("merges that are too much", mergesTooMuch);
+        met("merges that cost writes", mergesThatCost);
+        met("memory behind which there are 5 runs, and all merged", sixRunsOnTheWay);
         Check.end("RandomRunsTest");
     }
 }

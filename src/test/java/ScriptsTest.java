@@ -374,16 +374,16 @@ public final class ScriptsTest {
 
     private static void promise27() {
         document.says(27, "Simulates m turns on a copy of the state.");
-        RangeGraves x = Check.loaded(HISTORY);
-        x.put(1, 1);
-        String before = Check.everything(x);
         for (int seed = 0; seed < 20; seed++) {
+            RangeGraves x = Check.loaded(HISTORY);
+            x.put(1, 1);
+            String before = Check.everything(x);
             int first = x.simulate(seed, 60);
             Check.sameText("nothing is different", Check.everything(x), before);
             Check.same("simulate again", x.simulate(seed, 60), first);
+            Check.same("it is no action", x.undo(), 0);
+            Check.noState("nor are its turns", () -> x.undo());
         }
-        Check.same("it is no action", x.undo(), 0);
-        Check.noState("nor are its turns", () -> x.undo());
     }
 
     private static void promise27Overflow() {

@@ -306,8 +306,8 @@ public final class TextTest {
         Check.noState("restore 1", () -> x.restore(1));
     }
 
-    private static void promise01KeepsNothing() {
-        document.says(1, "Creates an empty store");
+    /** A new object, beside which another one was used. */
+    private static RangeGraves besideAnother() {
         RangeGraves x = new RangeGraves();
         RangeGraves other = new RangeGraves();
         other.append('G');
@@ -315,7 +315,13 @@ public final class TextTest {
         other.open();
         other.save(0);
         other.flush();
-        Check.sameText("objects have nothing in common", Check.whole(x), Check.whole(new RangeGraves()));
+        return x;
+    }
+
+    private static void promise01KeepsNothing() {
+        document.says(1, "Creates an empty store");
+        String before = Check.whole(() -> new RangeGraves());
+        Check.sameText("objects have nothing in common", Check.whole(() -> besideAnother()), before);
     }
 
     private static void promise02() {
